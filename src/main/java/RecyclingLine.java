@@ -1283,21 +1283,17 @@ public final class RecyclingLine {
                     end++;
                 }
             } else if (isDigit(text[start])) {
-                scanNumber();
+                value = 0;
+                while (end < length && isDigit(text[end])) {
+                    // What a run of too many digits comes to is never looked at.
+                    value = value * 10 + (text[end] - '0');
+                    end++;
+                }
+                token = end - start > MAX_DIGITS ? INVALID : NUMBER;
             } else {
                 token = text[start] == ';' ? SEMICOLON : INVALID;
                 end++;
             }
-        }
-
-        private void scanNumber() {
-            value = 0;
-            while (end < length && isDigit(text[end])) {
-                // What a run of too many digits comes to is never looked at.
-                value = value * 10 + (text[end] - '0');
-                end++;
-            }
-            token = end - start > MAX_DIGITS ? INVALID : NUMBER;
         }
 
         private static boolean isBlank(byte code) {
