@@ -12,7 +12,7 @@ final class Checks {
     static void due(String what, Object got, Object want) {
         if (!want.equals(got)) {
             wrong++;
-            System.out.println(what + " answered " + got + ", due is " + want);
+            System.out.println(Sentences.heldNow() + what + " answered " + got + ", due is " + want);
         }
     }
 
@@ -52,9 +52,43 @@ final class Checks {
         int answer = line.read();
         if (answer < 0) {
             wrong++;
-            System.out.println("a text of the tests is refused: " + answer + " for " + text);
+            System.out.println(Sentences.heldNow() + "a text of the tests is refused: " + answer + " for " + text);
         }
         return line;
+    }
+
+    static void reads(String text, int stations) {
+        RecyclingLine x = new RecyclingLine();
+        type(x, text);
+        due("read of " + text, x.read(), stations);
+    }
+
+    /** The sign ^ stands ahead of the token that is reported. */
+    static void refuses(String marked, int kind) {
+        int offset = marked.indexOf('^');
+        String text = marked.substring(0, offset) + marked.substring(offset + 1);
+        RecyclingLine x = new RecyclingLine();
+        type(x, text);
+        due("read of " + marked, x.read(), -(8 * offset + kind));
+        due("line after " + marked, everything(x), everything(new RecyclingLine()));
+    }
+
+    static void finds(RecyclingLine x, String name, int want) {
+        type(x, name);
+        due("find of " + name, x.find(), want);
+        due("buffer after find", x.bufferLength(), 0);
+    }
+
+    static void masses(RecyclingLine x, int place, int... due) {
+        for (int m = 0; m < due.length; m++) {
+            due("mass(" + place + ", " + m + ")", x.mass(place, m), due[m]);
+        }
+    }
+
+    static void properties(RecyclingLine x, int station, int... due) {
+        for (int what = 0; what < due.length; what++) {
+            due("station(" + station + ", " + what + ")", x.station(station, what), due[what]);
+        }
     }
 
     /** All that can be asked about a line without changing it, in one text. */

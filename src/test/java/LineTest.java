@@ -78,62 +78,62 @@ public final class LineTest {
         RecyclingLine x = Checks.lineOf("materials 3;station 0 0 1 0;set 0 4;set 5 0;load 7 5 3;load 2;");
         // Each time what divides gives less than 4, and of the material of which most is left the rest is taken.
         x.run(1);
-        masses(x, 8, 3, 1, 0);
-        masses(x, 16, 4, 4, 3);
+        Checks.masses(x, 8, 3, 1, 0);
+        Checks.masses(x, 16, 4, 4, 3);
         x.run(1);
-        masses(x, 8, 2, 1, 1);
-        masses(x, 16, 2, 3, 2);
-        masses(x, 46, 3, 1, 0);
+        Checks.masses(x, 8, 2, 1, 1);
+        Checks.masses(x, 16, 2, 3, 2);
+        Checks.masses(x, 46, 3, 1, 0);
         x.run(1);
-        masses(x, 8, 1, 2, 1);
-        masses(x, 16, 1, 1, 1);
+        Checks.masses(x, 8, 1, 2, 1);
+        Checks.masses(x, 16, 1, 1, 1);
         Checks.due("parcels in the hopper", x.line(4), 2);
         x.run(1);
-        masses(x, 8, 1, 1, 1);
-        masses(x, 16, 2, 0, 0);
-        masses(x, 17, 0, 0, 0);
+        Checks.masses(x, 8, 1, 1, 1);
+        Checks.masses(x, 16, 2, 0, 0);
+        Checks.masses(x, 17, 0, 0, 0);
         Checks.due("parcels left", x.line(4), 1);
         x.run(1);
-        masses(x, 8, 2, 0, 0);
-        masses(x, 46, 7, 5, 3);
+        Checks.masses(x, 8, 2, 0, 0);
+        Checks.masses(x, 46, 7, 5, 3);
         Checks.due("an empty hopper", x.line(4), 0);
         x.run(1);
-        masses(x, 46, 9, 5, 3);
+        Checks.masses(x, 46, 9, 5, 3);
         Checks.due("an empty belt", x.line(5), 0);
 
         RecyclingLine even = Checks.lineOf("materials 2;station 0 0 1 0;set 0 5;load 6 9;");
         even.run(1);
-        masses(even, 8, 2, 3);
+        Checks.masses(even, 8, 2, 3);
 
         // A portion as great as the heap is the whole heap.
         RecyclingLine whole = Checks.lineOf("materials 2;station 0 0 1 0;set 0 8;load 5 3;load 4 5;");
         whole.run(1);
-        masses(whole, 8, 5, 3);
-        masses(whole, 16, 4, 5);
+        Checks.masses(whole, 8, 5, 3);
+        Checks.masses(whole, 16, 4, 5);
         whole.run(1);
         // 3 and 4, and of the two materials of which 1 is left the lower one.
-        masses(whole, 8, 4, 4);
-        masses(whole, 16, 0, 1);
+        Checks.masses(whole, 8, 4, 4);
+        Checks.masses(whole, 16, 0, 1);
     }
 
     private static void picking() {
         RecyclingLine x = Checks.lineOf("materials 3;station 1 2 10 25;set 0 200;load 30 40 30;");
         x.run(1);
         // 20 of material 1 and 20 * 25 / 100 of material 0, the lower one of the two of which most is there.
-        masses(x, 0, 5, 20, 0);
-        masses(x, 8, 25, 20, 30);
-        properties(x, 0, 1, 2, 10, 25, 1, 19, 25, 75, 0, 0, 25);
+        Checks.masses(x, 0, 5, 20, 0);
+        Checks.masses(x, 8, 25, 20, 30);
+        Checks.properties(x, 0, 1, 2, 10, 25, 1, 19, 25, 75, 0, 0, 25);
         x.run(1);
         // It went round; now 19 and 19 * 25 / 100 of material 2.
-        masses(x, 0, 5, 39, 4);
-        masses(x, 8, 25, 1, 26);
-        properties(x, 0, 1, 2, 10, 25, 2, 19, 48, 52, 1, 0, 48);
+        Checks.masses(x, 0, 5, 39, 4);
+        Checks.masses(x, 8, 25, 1, 26);
+        Checks.properties(x, 0, 1, 2, 10, 25, 2, 19, 48, 52, 1, 0, 48);
         Checks.due("loss without residue", x.loss(), 0.0f);
         Checks.due("parcels gone round are on the belt", x.line(5), 1);
         x.run(1);
         // 1 * 100 / 52 is less than 20: residue.
-        masses(x, 46, 25, 1, 26);
-        properties(x, 0, 1, 2, 10, 25, 0, 20, 48, 0, -1, 0, 48);
+        Checks.masses(x, 46, 25, 1, 26);
+        Checks.properties(x, 0, 1, 2, 10, 25, 0, 20, 48, 0, -1, 0, 48);
         Checks.due("loss without bales", x.loss(), 1.0f);
         RecyclingLine least = Checks.lineOf("materials 2;station 0 0 1 0;load 0 1;");
         least.run(2);
@@ -143,25 +143,25 @@ public final class LineTest {
         // Less of the target and of the other than could be picked.
         RecyclingLine y = Checks.lineOf("materials 2;station 0 9 50 30;set 0 200;set 1 500;load 100 20;load 3 50;");
         y.run(1);
-        masses(y, 0, 100, 20);
+        Checks.masses(y, 0, 100, 20);
         Checks.due("a parcel picked empty is gone", y.line(5), 0);
         Checks.due("its rounds", y.station(0, 8), -1);
         y.run(1);
         // 3 * 30 / 100 is nothing.
-        masses(y, 8, 0, 50);
+        Checks.masses(y, 8, 0, 50);
         Checks.due("picked", y.station(0, 10), 123);
 
         RecyclingLine odd = Checks.lineOf("materials 2;station 0 9 50 3;load 33 9;");
         odd.run(1);
-        masses(odd, 8, 0, 9);
+        Checks.masses(odd, 8, 0, 9);
         RecyclingLine one = Checks.lineOf("materials 2;station 0 9 50 4;load 25 9;");
         one.run(1);
-        masses(one, 8, 0, 8);
+        Checks.masses(one, 8, 0, 8);
 
         // Without any of the target nothing is picked, of others neither.
         RecyclingLine z = Checks.lineOf("materials 2;station 0 9 50 30;load 0 40;");
         z.run(1);
-        masses(z, 8, 0, 40);
+        Checks.masses(z, 8, 0, 40);
         Checks.due("picked without a target", z.station(0, 10), 0);
     }
 
@@ -227,18 +227,18 @@ public final class LineTest {
         RecyclingLine x = Checks.lineOf("materials 2;station 0 0 1 0;set 0 10;load 10;load 0 25;");
         x.run(2);
         Checks.due("hopper", x.line(4), 2);
-        masses(x, 16, 0, 15);
-        masses(x, 17, 10, 0);
+        Checks.masses(x, 16, 0, 15);
+        Checks.masses(x, 17, 10, 0);
         Checks.due("rounds of what came later", x.station(0, 8), 0);
         x.run(3);
-        masses(x, 8, 10, 0);
+        Checks.masses(x, 8, 10, 0);
         Checks.due("rounds of what went round", x.station(0, 8), 1);
-        masses(x, 46, 0, 25);
+        Checks.masses(x, 46, 0, 25);
         x.run(1);
         Checks.due("rounds of what went round twice", x.station(0, 8), 2);
         Checks.due("it came from the hopper at once", x.line(4), 0);
         x.run(1);
-        masses(x, 46, 10, 25);
+        Checks.masses(x, 46, 10, 25);
         Checks.due("two rounds are the end", x.line(5), 0);
         RecyclingLine never = Checks.lineOf("materials 1;station 0 0 1 0;set 5 0;load 10;");
         never.run(2);
@@ -257,8 +257,8 @@ public final class LineTest {
         // With loop 0 there must be one kilogram of a target still.
         RecyclingLine y = Checks.lineOf("materials 2;station 1 0 1 0;set 0 200;set 4 0;load 200 0;load 199 1;");
         y.run(3);
-        masses(y, 46, 200, 0);
-        masses(y, 8, 199, 1);
+        Checks.masses(y, 46, 200, 0);
+        Checks.masses(y, 8, 199, 1);
         Checks.due("one kilogram of 200 goes round", y.station(0, 8), 1);
     }
 
@@ -290,8 +290,8 @@ public final class LineTest {
                 Checks.due("bale(" + bale + ", " + what + ")", x.bale(bale, what), bales[bale][what]);
             }
         }
-        masses(x, 0, 13, 5);
-        masses(x, 8, 0, 22);
+        Checks.masses(x, 0, 13, 5);
+        Checks.masses(x, 8, 0, 22);
         Checks.due("pressed", x.station(0, 9), 3);
         Checks.due("purity", x.purity(0), 47.0 / 60.0);
         Checks.due("purity of what has no bale", x.purity(1), 0.0);
@@ -425,17 +425,5 @@ public final class LineTest {
         Checks.due("nor to emptied", x.emptied(), 0);
         Checks.due("undo", x.undo(), 5);
         Checks.due("ticks", x.line(3), 9800);
-    }
-
-    private static void masses(RecyclingLine x, int place, int... due) {
-        for (int m = 0; m < due.length; m++) {
-            Checks.due("mass(" + place + ", " + m + ")", x.mass(place, m), due[m]);
-        }
-    }
-
-    private static void properties(RecyclingLine x, int station, int... due) {
-        for (int what = 0; what < due.length; what++) {
-            Checks.due("station(" + station + ", " + what + ")", x.station(station, what), due[what]);
-        }
     }
 }

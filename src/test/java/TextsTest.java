@@ -60,20 +60,20 @@ public final class TextsTest {
     }
 
     private static void goodTexts() {
-        reads("materials 1;station 0 0 1 0;", 1);
-        reads(" \n materials\n6\n;\nstation 5 9 50 30;  \n ", 1);
-        reads("materials0001;station0000 0 0001 0;load0999;", 1);
-        reads("materials 1;load 1;set 1 500;buyer abcdef 0 2 9999 100 100;station 0 0 1 0;", 1);
-        reads("materials 2;" + "station 1 0 1 0;".repeat(8), 8);
-        reads(LINE + "buyer a 0 0 1 0 0;buyer b 0 0 1 0 0;buyer aa 0 0 1 0 0;buyer mat 1 2 9999 100 100;", 1);
-        reads(LINE + "buyer sets 0 0 1 0 0;buyer se 0 0 1 0 0;buyer loads 0 0 1 0 0;buyer statio 0 0 1 0 0;", 1);
-        reads(LINE + "load 1;".repeat(30), 1);
-        reads(LINE + "load 1;".repeat(29) + "load 0;load 0 0;load 0 1;", 1);
+        Checks.reads("materials 1;station 0 0 1 0;", 1);
+        Checks.reads(" \n materials\n6\n;\nstation 5 9 50 30;  \n ", 1);
+        Checks.reads("materials0001;station0000 0 0001 0;load0999;", 1);
+        Checks.reads("materials 1;load 1;set 1 500;buyer abcdef 0 2 9999 100 100;station 0 0 1 0;", 1);
+        Checks.reads("materials 2;" + "station 1 0 1 0;".repeat(8), 8);
+        Checks.reads(LINE + "buyer a 0 0 1 0 0;buyer b 0 0 1 0 0;buyer aa 0 0 1 0 0;buyer mat 1 2 9999 100 100;", 1);
+        Checks.reads(LINE + "buyer sets 0 0 1 0 0;buyer se 0 0 1 0 0;buyer loads 0 0 1 0 0;buyer statio 0 0 1 0 0;", 1);
+        Checks.reads(LINE + "load 1;".repeat(30), 1);
+        Checks.reads(LINE + "load 1;".repeat(29) + "load 0;load 0 0;load 0 1;", 1);
         String longest = LINE + " ".repeat(700 - LINE.length());
-        reads(longest, 1);
-        refuses(longest.substring(0, 696) + "load^", 1);
-        refuses(longest.substring(0, 694) + "load 9^", 1);
-        refuses(longest.substring(0, 695) + "^loads", 1);
+        Checks.reads(longest, 1);
+        Checks.refuses(longest.substring(0, 696) + "load^", 1);
+        Checks.refuses(longest.substring(0, 694) + "load 9^", 1);
+        Checks.refuses(longest.substring(0, 695) + "^loads", 1);
         RecyclingLine empty = Checks.lineOf(LINE + "load 0;load 0 0;");
         Checks.due("loads of nothing", empty.line(4), 0);
 
@@ -126,7 +126,7 @@ public final class TextsTest {
             Checks.due("read", x.read(), 2);
             Checks.due("a line used before is as a new one", Checks.everything(x), fresh);
             Checks.due("nothing can be undone", x.undo(), -1);
-            finds(x, "a", -1);
+            Checks.finds(x, "a", -1);
             x.run(5);
             Checks.due("and runs as a new one", Checks.everything(x), later);
         }
@@ -134,131 +134,131 @@ public final class TextsTest {
 
     /** Kind 1. The sign ^ stands ahead of the token that is reported. */
     private static void misplaced() {
-        refuses("^", 1);
-        refuses("   ^", 1);
-        refuses("^material 1;", 1);
-        refuses("^materialsx 1;", 1);
-        refuses("^aaterials 1;", 1);
-        refuses(LINE + "^soad 1;", 1);
-        refuses(LINE + "^loab 1;", 1);
-        refuses("^station 0 0 1 0;", 1);
-        refuses("^; materials 1;", 1);
-        refuses("^1 materials", 1);
-        refuses("^Materials 1;", 1);
-        refuses("\n^\tmaterials 1;", 1);
-        refuses("materials^", 1);
-        refuses("materials  ^", 1);
-        refuses("materials ^;", 1);
-        refuses("materials ^00001;", 1);
-        refuses("materials ^-1;", 1);
-        refuses("materials ^one;", 1);
-        refuses("materials 1^", 1);
-        refuses("materials 1 ^2;", 1);
-        refuses("materials 1 ^station 0 0 1 0;", 1);
-        refuses("materials 1;^", 1);
-        refuses("materials 1; \n ^", 1);
-        refuses("materials 1;^;", 1);
-        refuses("materials 1;^materials 1;", 1);
-        refuses("materials 1;^stations 0 0 1 0;", 1);
-        refuses("materials 1;^stat ion 0 0 1 0;", 1);
-        refuses("materials 1;set 0 1;load 4;^", 1);
-        refuses(LINE + "^,", 1);
-        refuses(LINE + "^\u00e9", 1);
-        refuses(LINE + "^\u0000", 1);
-        refuses(LINE + "set 0 1^\u00ff;", 1);
-        refuses(LINE + "^{", 1);
-        refuses(LINE + "^`", 1);
-        refuses(LINE + "load 1^/;", 1);
-        refuses(LINE + "load 1^:;", 1);
-        refuses(LINE + "^;", 1);
-        refuses(LINE + "^0;", 1);
-        refuses(LINE + "^sets 0 1;", 1);
-        refuses(LINE + "^se 0 1;", 1);
-        refuses(LINE + "station ^;", 1);
-        refuses(LINE + "station 0 0 1^;", 1);
-        refuses(LINE + "station 0 0 1 0^", 1);
-        refuses(LINE + "station 0 0 1 0 ^0;", 1);
-        refuses(LINE + "station 0 0 1 0 ^station 0 0 1 0;", 1);
-        refuses(LINE + "station ^99999 0 1 0;", 1);
-        refuses(LINE + "set ^;", 1);
-        refuses(LINE + "set 0^;", 1);
-        refuses(LINE + "set 0 50 ^1;", 1);
-        refuses(LINE + "set ^feed 1;", 1);
-        refuses(LINE + "load^;", 1);
-        refuses(LINE + "load 1 2^", 1);
-        refuses(LINE + "load 1 2 ^3;", 1);
-        refuses(LINE + "load 1 2 ^1000;", 1);
-        refuses(LINE + "load 1 ^12345;", 1);
-        refuses(LINE + "load 1 ^a;", 1);
-        refuses(LINE + "buyer ^;", 1);
-        refuses(LINE + "buyer ^1 0 0 1 0 0;", 1);
-        refuses(LINE + "buyer ^abcdefg 0 0 1 0 0;", 1);
-        refuses(LINE + "buyer ^set 0 0 1 0 0;", 1);
-        refuses(LINE + "buyer ^load 0 0 1 0 0;", 1);
-        refuses(LINE + "buyer ^buyer 0 0 1 0 0;", 1);
-        refuses(LINE + "buyer ^station 0 0 1 0 0;", 1);
-        refuses(LINE + "buyer ^materials 0 0 1 0 0;", 1);
-        refuses(LINE + "buyer ^A 0 0 1 0 0;", 1);
-        refuses(LINE + "buyer a ^b 0 0 1 0 0;", 1);
-        refuses(LINE + "buyer a 0 0 1 0^;", 1);
-        refuses(LINE + "buyer a 0 0 1 0 0 ^0;", 1);
-        refuses(LINE + "buyer a 0 0 1 0 0^", 1);
-        refuses("materials 1;" + "station 0 0 1 0;".repeat(7) + "station 0 0 1 0 ^station", 1);
+        Checks.refuses("^", 1);
+        Checks.refuses("   ^", 1);
+        Checks.refuses("^material 1;", 1);
+        Checks.refuses("^materialsx 1;", 1);
+        Checks.refuses("^aaterials 1;", 1);
+        Checks.refuses(LINE + "^soad 1;", 1);
+        Checks.refuses(LINE + "^loab 1;", 1);
+        Checks.refuses("^station 0 0 1 0;", 1);
+        Checks.refuses("^; materials 1;", 1);
+        Checks.refuses("^1 materials", 1);
+        Checks.refuses("^Materials 1;", 1);
+        Checks.refuses("\n^\tmaterials 1;", 1);
+        Checks.refuses("materials^", 1);
+        Checks.refuses("materials  ^", 1);
+        Checks.refuses("materials ^;", 1);
+        Checks.refuses("materials ^00001;", 1);
+        Checks.refuses("materials ^-1;", 1);
+        Checks.refuses("materials ^one;", 1);
+        Checks.refuses("materials 1^", 1);
+        Checks.refuses("materials 1 ^2;", 1);
+        Checks.refuses("materials 1 ^station 0 0 1 0;", 1);
+        Checks.refuses("materials 1;^", 1);
+        Checks.refuses("materials 1; \n ^", 1);
+        Checks.refuses("materials 1;^;", 1);
+        Checks.refuses("materials 1;^materials 1;", 1);
+        Checks.refuses("materials 1;^stations 0 0 1 0;", 1);
+        Checks.refuses("materials 1;^stat ion 0 0 1 0;", 1);
+        Checks.refuses("materials 1;set 0 1;load 4;^", 1);
+        Checks.refuses(LINE + "^,", 1);
+        Checks.refuses(LINE + "^\u00e9", 1);
+        Checks.refuses(LINE + "^\u0000", 1);
+        Checks.refuses(LINE + "set 0 1^\u00ff;", 1);
+        Checks.refuses(LINE + "^{", 1);
+        Checks.refuses(LINE + "^`", 1);
+        Checks.refuses(LINE + "load 1^/;", 1);
+        Checks.refuses(LINE + "load 1^:;", 1);
+        Checks.refuses(LINE + "^;", 1);
+        Checks.refuses(LINE + "^0;", 1);
+        Checks.refuses(LINE + "^sets 0 1;", 1);
+        Checks.refuses(LINE + "^se 0 1;", 1);
+        Checks.refuses(LINE + "station ^;", 1);
+        Checks.refuses(LINE + "station 0 0 1^;", 1);
+        Checks.refuses(LINE + "station 0 0 1 0^", 1);
+        Checks.refuses(LINE + "station 0 0 1 0 ^0;", 1);
+        Checks.refuses(LINE + "station 0 0 1 0 ^station 0 0 1 0;", 1);
+        Checks.refuses(LINE + "station ^99999 0 1 0;", 1);
+        Checks.refuses(LINE + "set ^;", 1);
+        Checks.refuses(LINE + "set 0^;", 1);
+        Checks.refuses(LINE + "set 0 50 ^1;", 1);
+        Checks.refuses(LINE + "set ^feed 1;", 1);
+        Checks.refuses(LINE + "load^;", 1);
+        Checks.refuses(LINE + "load 1 2^", 1);
+        Checks.refuses(LINE + "load 1 2 ^3;", 1);
+        Checks.refuses(LINE + "load 1 2 ^1000;", 1);
+        Checks.refuses(LINE + "load 1 ^12345;", 1);
+        Checks.refuses(LINE + "load 1 ^a;", 1);
+        Checks.refuses(LINE + "buyer ^;", 1);
+        Checks.refuses(LINE + "buyer ^1 0 0 1 0 0;", 1);
+        Checks.refuses(LINE + "buyer ^abcdefg 0 0 1 0 0;", 1);
+        Checks.refuses(LINE + "buyer ^set 0 0 1 0 0;", 1);
+        Checks.refuses(LINE + "buyer ^load 0 0 1 0 0;", 1);
+        Checks.refuses(LINE + "buyer ^buyer 0 0 1 0 0;", 1);
+        Checks.refuses(LINE + "buyer ^station 0 0 1 0 0;", 1);
+        Checks.refuses(LINE + "buyer ^materials 0 0 1 0 0;", 1);
+        Checks.refuses(LINE + "buyer ^A 0 0 1 0 0;", 1);
+        Checks.refuses(LINE + "buyer a ^b 0 0 1 0 0;", 1);
+        Checks.refuses(LINE + "buyer a 0 0 1 0^;", 1);
+        Checks.refuses(LINE + "buyer a 0 0 1 0 0 ^0;", 1);
+        Checks.refuses(LINE + "buyer a 0 0 1 0 0^", 1);
+        Checks.refuses("materials 1;" + "station 0 0 1 0;".repeat(7) + "station 0 0 1 0 ^station", 1);
     }
 
     private static void outOfRange() {
-        refuses("materials ^0;", 2);
-        refuses("materials ^7;", 2);
-        refuses("materials ^0000 x", 2);
-        refuses("materials ^9999", 2);
-        refuses("materials 3;station ^3 0 1 0;", 2);
-        refuses(LINE + "station 0 ^10 1 0;", 2);
-        refuses(LINE + "station 0 0 ^0 0;", 2);
-        refuses(LINE + "station 0 0 ^51 0;", 2);
-        refuses(LINE + "station 0 0 1 ^31;", 2);
-        refuses(LINE + "set ^8 0;", 2);
+        Checks.refuses("materials ^0;", 2);
+        Checks.refuses("materials ^7;", 2);
+        Checks.refuses("materials ^0000 x", 2);
+        Checks.refuses("materials ^9999", 2);
+        Checks.refuses("materials 3;station ^3 0 1 0;", 2);
+        Checks.refuses(LINE + "station 0 ^10 1 0;", 2);
+        Checks.refuses(LINE + "station 0 0 ^0 0;", 2);
+        Checks.refuses(LINE + "station 0 0 ^51 0;", 2);
+        Checks.refuses(LINE + "station 0 0 1 ^31;", 2);
+        Checks.refuses(LINE + "set ^8 0;", 2);
         int[][] ranges = {{1, 200}, {20, 500}, {0, 100}, {0, 100}, {0, 100}, {0, 5}, {0, 5}, {0, 20}};
         for (int what = 0; what < 8; what++) {
             String set = LINE + "set " + what + " ";
-            reads(set + ranges[what][0] + ";", 1);
-            reads(set + ranges[what][1] + ";", 1);
-            refuses(set + "^" + (ranges[what][1] + 1) + ";", 2);
+            Checks.reads(set + ranges[what][0] + ";", 1);
+            Checks.reads(set + ranges[what][1] + ";", 1);
+            Checks.refuses(set + "^" + (ranges[what][1] + 1) + ";", 2);
             if (ranges[what][0] > 0) {
-                refuses(set + "^" + (ranges[what][0] - 1) + ";", 2);
+                Checks.refuses(set + "^" + (ranges[what][0] - 1) + ";", 2);
             }
         }
-        refuses(LINE + "load ^1000;", 2);
-        refuses(LINE + "load 999 ^1000;", 2);
-        refuses(LINE + "load ^1000 1 1", 2);
-        refuses(LINE + "buyer a ^2 0 1 0 0;", 2);
-        refuses(LINE + "buyer a 0 ^3 1 0 0;", 2);
-        refuses(LINE + "buyer a 0 0 ^0 0 0;", 2);
-        refuses(LINE + "buyer a 0 0 1 ^101 0;", 2);
-        refuses(LINE + "buyer a 0 0 1 0 ^101;", 2);
+        Checks.refuses(LINE + "load ^1000;", 2);
+        Checks.refuses(LINE + "load 999 ^1000;", 2);
+        Checks.refuses(LINE + "load ^1000 1 1", 2);
+        Checks.refuses(LINE + "buyer a ^2 0 1 0 0;", 2);
+        Checks.refuses(LINE + "buyer a 0 ^3 1 0 0;", 2);
+        Checks.refuses(LINE + "buyer a 0 0 ^0 0 0;", 2);
+        Checks.refuses(LINE + "buyer a 0 0 1 ^101 0;", 2);
+        Checks.refuses(LINE + "buyer a 0 0 1 0 ^101;", 2);
         // The first error is the one that counts, whatever comes behind it.
-        refuses(LINE + "set ^9 9 9;set 0 0;?", 2);
-        refuses(LINE + "^?set 0 0;", 1);
+        Checks.refuses(LINE + "set ^9 9 9;set 0 0;?", 2);
+        Checks.refuses(LINE + "^?set 0 0;", 1);
     }
 
     private static void namesTaken() {
-        refuses(LINE + "buyer a 0 0 1 0 0;buyer ^a 0 0 1 0 0;", 3);
-        refuses(LINE + "buyer ab 0 0 1 0 0;buyer b 0 0 1 0 0;buyer ^ab", 3);
-        refuses(LINE + "buyer zzzzzz 0 0 1 0 0;buyer ^zzzzzz 9 9 9 9 9;", 3);
-        refuses(LINE + "buyer a 0 0 1 0 0;buyer ^aaaaaaa 0 0 1 0 0;", 1);
+        Checks.refuses(LINE + "buyer a 0 0 1 0 0;buyer ^a 0 0 1 0 0;", 3);
+        Checks.refuses(LINE + "buyer ab 0 0 1 0 0;buyer b 0 0 1 0 0;buyer ^ab", 3);
+        Checks.refuses(LINE + "buyer zzzzzz 0 0 1 0 0;buyer ^zzzzzz 9 9 9 9 9;", 3);
+        Checks.refuses(LINE + "buyer a 0 0 1 0 0;buyer ^aaaaaaa 0 0 1 0 0;", 1);
     }
 
     private static void tooMany() {
         String eight = "materials 1;" + "station 0 0 1 0;".repeat(8);
-        refuses(eight + "^station 0 0 1 0;", 5);
-        refuses(eight + "^station", 5);
-        refuses(eight + "^stations", 1);
+        Checks.refuses(eight + "^station 0 0 1 0;", 5);
+        Checks.refuses(eight + "^station", 5);
+        Checks.refuses(eight + "^stations", 1);
         String four = LINE + "buyer a 0 0 1 0 0;buyer b 0 0 1 0 0;buyer c 0 0 1 0 0;buyer d 0 0 1 0 0;";
-        refuses(four + "^buyer e 0 0 1 0 0;", 5);
-        refuses(four + "^buyer a 0 0 1 0 0;", 5);
+        Checks.refuses(four + "^buyer e 0 0 1 0 0;", 5);
+        Checks.refuses(four + "^buyer a 0 0 1 0 0;", 5);
         String full = LINE + "load 1;".repeat(30);
-        refuses(full + "^load 1;", 5);
-        refuses(full + "^load 0;", 5);
-        refuses(full + "^load ?", 5);
+        Checks.refuses(full + "^load 1;", 5);
+        Checks.refuses(full + "^load 0;", 5);
+        Checks.refuses(full + "^load ?", 5);
     }
 
     private static void refusedTextsChangeNothing() {
@@ -276,37 +276,16 @@ public final class TextsTest {
 
     private static void finding() {
         RecyclingLine x = Checks.lineOf(LINE + "buyer ab 0 0 1 0 0;buyer b 0 0 1 0 0;buyer zzzzzz 0 0 1 0 0;");
-        finds(x, "ab", 0);
-        finds(x, "b", 1);
-        finds(x, "zzzzzz", 2);
+        Checks.finds(x, "ab", 0);
+        Checks.finds(x, "b", 1);
+        Checks.finds(x, "zzzzzz", 2);
         String[] none = {"", "a", "ba", "abc", "bb", " ab", "ab ", "ab;", "AB", "zzzzzzz", "zzzzz", "b\u0000", "set",
             "\u00e2", "`", "a`", "bB", "{", "c".repeat(700)};
         for (String name : none) {
-            finds(x, name, -1);
+            Checks.finds(x, name, -1);
         }
         RecyclingLine fresh = new RecyclingLine();
-        finds(fresh, "", -1);
-        finds(fresh, "a", -1);
-    }
-
-    private static void finds(RecyclingLine x, String name, int want) {
-        Checks.type(x, name);
-        Checks.due("find of " + name, x.find(), want);
-        Checks.due("buffer after find", x.bufferLength(), 0);
-    }
-
-    private static void reads(String text, int want) {
-        RecyclingLine x = new RecyclingLine();
-        Checks.type(x, text);
-        Checks.due("read of " + text, x.read(), want);
-    }
-
-    private static void refuses(String marked, int kind) {
-        int offset = marked.indexOf('^');
-        String text = marked.substring(0, offset) + marked.substring(offset + 1);
-        RecyclingLine x = new RecyclingLine();
-        Checks.type(x, text);
-        Checks.due("read of " + marked, x.read(), -(8 * offset + kind));
-        Checks.due("line after " + marked, Checks.everything(x), Checks.everything(new RecyclingLine()));
+        Checks.finds(fresh, "", -1);
+        Checks.finds(fresh, "a", -1);
     }
 }
