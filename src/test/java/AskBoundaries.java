@@ -11,36 +11,16 @@ final class AskBoundaries {
     }
 
     static void all() {
-        none();
-        linesOfAnEmptyLine();
-        linesAtTheirGreatest();
-        soldAndSentBack();
-        claimsOfNothing();
-        lineOfOthers();
-        settingValues();
-        noSuchSetting();
-        emptyStation();
-        emptySlot();
-        countsOfAStation();
-        noSuchStation();
-        noSuchStationProperty();
-        placesOfBunkersAndSlots();
-        placesOfTheHopper();
-        placesWhereNothingIs();
-        noSuchPlace();
-        noSuchMaterialOfAPlace();
-        baleProperties();
-        baleIndexes();
-        noSuchBaleProperty();
-        buyerProperties();
-        noSuchBuyer();
-        noSuchBuyerProperty();
-        balances();
-        balanceOfOthers();
-        purityOfNone();
-        puritiesOfAllBales();
-        purityOfNoSuchMaterial();
-        losses();
+        Checks.each(AskBoundaries::none, AskBoundaries::linesOfAnEmptyLine, AskBoundaries::linesAtTheirGreatest,
+            AskBoundaries::soldAndSentBack, AskBoundaries::claimsOfNothing, AskBoundaries::lineOfOthers,
+            AskBoundaries::settingValues, AskBoundaries::noSuchSetting, AskBoundaries::emptyStation,
+            AskBoundaries::emptySlot, AskBoundaries::countsOfAStation, AskBoundaries::noSuchStation,
+            AskBoundaries::noSuchStationProperty, AskBoundaries::placesOfBunkersAndSlots, AskBoundaries::placesOfTheHopper,
+            AskBoundaries::placesWhereNothingIs, AskBoundaries::noSuchPlace, AskBoundaries::noSuchMaterialOfAPlace,
+            AskBoundaries::baleProperties, AskBoundaries::baleIndexes, AskBoundaries::noSuchBaleProperty,
+            AskBoundaries::buyerProperties, AskBoundaries::noSuchBuyer, AskBoundaries::noSuchBuyerProperty,
+            AskBoundaries::balances, AskBoundaries::balanceOfOthers, AskBoundaries::purityOfNone,
+            AskBoundaries::puritiesOfAllBales, AskBoundaries::purityOfNoSuchMaterial, AskBoundaries::losses);
     }
 
     private static RecyclingLine ticked(int ticks, String text) {
@@ -132,6 +112,15 @@ final class AskBoundaries {
         RecyclingLine back = ticked(1, BALES + "buyer a 0 2 99 0 19;");
         back.sell(0, 0);
         Checks.due("what is sent back makes no claim", back.line(10), 0);
+        RecyclingLine two = ticked(1, BALES + "buyer a 0 2 99 19 99;");
+        two.sell(0, 0);
+        two.sell(0, 0);
+        Checks.due("two claims", two.line(10), 2);
+        two.undo();
+        Checks.due("one was undone", two.line(10), 1);
+        two.sell(0, 0);
+        two.sell(0, 0);
+        Checks.due("three claims", two.line(10), 3);
     }
 
     private static void lineOfOthers() {
@@ -459,6 +448,11 @@ final class AskBoundaries {
         balancesAre(x, 101, 0, 0, 0, 40, 20, 23, 18);
         x.undo();
         balancesAre(x, 101, 20, 1, 0, 20, 20, 22, 18);
+        x.sell(0, 0);
+        balancesAre(x, 101, 20, 1, 0, 0, 40, 22, 18);
+        // As many stations as there can be, with something in front of each and in each bunker.
+        RecyclingLine eight = ticked(8, "materials 2;" + "station 0 1 1 0;".repeat(8) + "set 0 100;set 6 0;" + "load 8 92;".repeat(9));
+        balancesAre(eight, 900, 100, 800 - 36, 36, 0, 0, 0, 0);
         RecyclingLine most = Checks.lineOf("materials 6;station 0 0 1 0;" + "load 999 999 999 999 999 999;".repeat(22));
         balancesAre(most, 22 * 5994, 22 * 5994, 0, 0, 0, 0, 0, 0);
     }

@@ -6,25 +6,12 @@ final class BaleBoundaries {
     }
 
     static void all() {
-        fullBunkers();
-        leastAndGreatestBales();
-        fullStock();
-        stationsInTheirOrder();
-        portionsOfBunkers();
-        lastInTheStock();
-        serialNumbers();
-        materialsOfBales();
-        purities();
-        grades();
-        gradesAsPressed();
-        buyersInTheirOrder();
-        rangesOfBuyers();
-        takenBales();
-        limits();
-        worths();
-        tolerances();
-        claims();
-        claimsUpToTheWorth();
+        Checks.each(BaleBoundaries::fullBunkers, BaleBoundaries::leastAndGreatestBales, BaleBoundaries::fullStock,
+            BaleBoundaries::stationsInTheirOrder, BaleBoundaries::portionsOfBunkers, BaleBoundaries::lastInTheStock,
+            BaleBoundaries::serialNumbers, BaleBoundaries::materialsOfBales, BaleBoundaries::purities,
+            BaleBoundaries::grades, BaleBoundaries::gradesAsPressed, BaleBoundaries::buyersInTheirOrder,
+            BaleBoundaries::rangesOfBuyers, BaleBoundaries::takenBales, BaleBoundaries::limits, BaleBoundaries::worths,
+            BaleBoundaries::tolerances, BaleBoundaries::claims, BaleBoundaries::claimsUpToTheWorth);
     }
 
     /** A line that pressed one bale of 100 kilograms, of a material 0 and an impurity of at most 23. */

@@ -7,21 +7,12 @@ final class BufferBoundaries {
     }
 
     static void all() {
-        newObject();
-        emptyBufferOfANewObject();
-        appendedBytes();
-        appendedSigns();
-        fullBuffer();
-        shortened();
-        truncateBounds();
-        bufferLengths();
-        readReplaces();
-        readEmpties();
-        readAnswers();
-        refusedReadKeeps();
-        foundNames();
-        findEmpties();
-        foundNone();
+        Checks.each(BufferBoundaries::newObject, BufferBoundaries::emptyBufferOfANewObject,
+            BufferBoundaries::appendedBytes, BufferBoundaries::appendedSigns, BufferBoundaries::fullBuffer,
+            BufferBoundaries::shortened, BufferBoundaries::truncateBounds, BufferBoundaries::bufferLengths,
+            BufferBoundaries::readReplaces, BufferBoundaries::readsInTurn, BufferBoundaries::readEmpties, BufferBoundaries::readAnswers,
+            BufferBoundaries::refusedReadKeeps, BufferBoundaries::foundNames, BufferBoundaries::findEmpties,
+            BufferBoundaries::foundNone);
     }
 
     private static void newObject() {
@@ -169,6 +160,38 @@ final class BufferBoundaries {
         Checks.due("ticks", x.line(3), 0);
         Checks.due("everything", Checks.everything(x), Checks.everything(new RecyclingLine()));
         Checks.finds(x, "a", -1);
+    }
+
+    private static void readsInTurn() {
+        Sentences.holds(5, "which replaces everything");
+        String used = "materials 2;station 1 9 50 30;station 0 1 9 0;station 1 0 1 0;set 0 200;set 1 20;set 4 0;set 5 0;set 7 9;"
+            + "buyer b 1 2 99 0 99;buyer c 1 2 9 0 0;load 70 90;load 50 150;load 9;load 9;load 9;load 9;";
+        String text = "materials 2;station 0 0 1 0;buyer a 1 0 1 0 0;";
+        for (int before = 0; before < 6; before++) {
+            RecyclingLine x = new RecyclingLine();
+            // One, two or three texts behind the one that was used: an object may keep some lines that it uses in turn.
+            Checks.type(x, used);
+            x.read();
+            x.run(5);
+            x.sell(0, 0);
+            x.sell(0, 1);
+            x.clean(before % 2);
+            for (int i = 0; i < before / 2; i++) {
+                Checks.type(x, text);
+                x.read();
+            }
+            Checks.type(x, text);
+            Checks.due("read", x.read(), 1);
+            RecyclingLine fresh = Checks.lineOf(text);
+            Checks.due("everything", Checks.everything(x), Checks.everything(fresh));
+            Checks.due("bales in the outlook", x.outlook(1, 0) + x.outlook(1, 1) + x.outlook(1, 3), 0);
+            Checks.due("ticks to emptiness", x.emptied(), 0);
+            x.run(1);
+            Checks.due("nothing comes to the belt", x.line(5), 0);
+            Checks.finds(x, "b", -1);
+            Checks.finds(x, "a", 0);
+            Checks.due("what can be undone", x.undo(), 0);
+        }
     }
 
     private static void readEmpties() {

@@ -16,43 +16,19 @@ final class ChangeBoundaries {
     }
 
     static void all() {
-        loadsLast();
-        loadAnswers();
-        loadOfNoMaterial();
-        loadOutOfRange();
-        loadIntoAFullHopper();
-        setOfEachSetting();
-        setAnswers();
-        setOfNoSetting();
-        setOutOfRange();
-        staffNotTired();
-        staffAnswers();
-        staffOfNoStation();
-        staffOutOfRange();
-        runMakesTicks();
-        runAnswers();
-        runOutOfRange();
-        runUpTo9999();
-        sellLeavesTheStock();
-        sellSendsBack();
-        sellAnswers();
-        sellOfNoBaleOrBuyer();
-        sellOfWhatIsNotTaken();
-        sellBackIntoAFullHopper();
-        cleanTakesAway();
-        cleanAnswers();
-        cleanOfNoStation();
-        sixChanges();
-        changesOfNothing();
-        allAsItWas();
-        bufferStays();
-        readForgets();
-        refusedCallsChangeNothing();
-        refusedCallsAreNoChanges();
-        bufferReadersEmptyIt();
-        firstException();
-        undoOfTheLatest();
-        undoAnswers();
+        Checks.each(ChangeBoundaries::loadsLast, ChangeBoundaries::loadAnswers, ChangeBoundaries::loadOfNoMaterial,
+            ChangeBoundaries::loadOutOfRange, ChangeBoundaries::loadIntoAFullHopper, ChangeBoundaries::setOfEachSetting,
+            ChangeBoundaries::setAnswers, ChangeBoundaries::setOfNoSetting, ChangeBoundaries::setOutOfRange,
+            ChangeBoundaries::staffNotTired, ChangeBoundaries::staffAnswers, ChangeBoundaries::staffOfNoStation,
+            ChangeBoundaries::staffOutOfRange, ChangeBoundaries::runMakesTicks, ChangeBoundaries::runAnswers,
+            ChangeBoundaries::runOutOfRange, ChangeBoundaries::runUpTo9999, ChangeBoundaries::sellLeavesTheStock,
+            ChangeBoundaries::sellSendsBack, ChangeBoundaries::sellAnswers, ChangeBoundaries::sellOfNoBaleOrBuyer,
+            ChangeBoundaries::sellOfWhatIsNotTaken, ChangeBoundaries::sellBackIntoAFullHopper,
+            ChangeBoundaries::cleanTakesAway, ChangeBoundaries::cleanAnswers, ChangeBoundaries::cleanOfNoStation,
+            ChangeBoundaries::sixChanges, ChangeBoundaries::changesOfNothing, ChangeBoundaries::allAsItWas,
+            ChangeBoundaries::bufferStays, ChangeBoundaries::readForgets, ChangeBoundaries::refusedCallsChangeNothing,
+            ChangeBoundaries::refusedCallsAreNoChanges, ChangeBoundaries::bufferReadersEmptyIt,
+            ChangeBoundaries::firstException, ChangeBoundaries::undoOfTheLatest, ChangeBoundaries::undoAnswers);
     }
 
     private static RecyclingLine ticked(int ticks, String text) {
@@ -486,7 +462,8 @@ final class ChangeBoundaries {
 
     private static void allAsItWas() {
         Sentences.holds(0, "all is then as it was ahead of the change");
-        String text = BALES + "station 1 2 9 0;buyer a 0 2 1000 10 20;buyer b 0 2 1000 0 0;load 9 9;load 90;";
+        String text = "materials 2;station 1 9 50 30;set 1 20;set 0 200;load 40 60;station 0 2 9 0;"
+            + "buyer a 1 2 1000 10 20;buyer b 1 2 1000 0 0;load 9 9;load 90;";
         List<Checks.Call> changes = new ArrayList<>();
         for (int i = 0; i < 8; i++) {
             RecyclingLine x = ticked(2, text);

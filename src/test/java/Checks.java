@@ -29,6 +29,18 @@ final class Checks {
         due(what, outcome(call), want);
     }
 
+    /** Runs each test, whatever the others throw. */
+    static void each(Runnable... tests) {
+        for (Runnable test : tests) {
+            due("a test to its end", outcome(() -> ended(test)), "ended");
+        }
+    }
+
+    private static String ended(Runnable test) {
+        test.run();
+        return "ended";
+    }
+
     static int word(String text, int from) {
         int four = 0;
         for (int i = from; i < from + 4; i++) {

@@ -11,30 +11,16 @@ final class QuestionBoundaries {
     }
 
     static void all() {
-        bestOfSeveral();
-        bestNotCounted();
-        bestOfNone();
-        bestBuyerOfNoBale();
-        outlookIsRun();
-        outlookOnTheLastTick();
-        outlookOfNothing();
-        outlookOfGrades();
-        outlookOfResidue();
-        outlookOfRounds();
-        outlookOfTiredness();
-        outlookOutOfRange();
-        leastStaff();
-        greatestStaff();
-        staffWhoAreNotTired();
-        othersPicked();
-        staffOnTheLastTick();
-        bestStaffOfNoStation();
-        bestStaffOutOfRange();
-        emptiedAtOnce();
-        emptiedWithin400();
-        notEmptied();
-        emptiedOnTheLastTick();
-        questionsChangeNothing();
+        Checks.each(QuestionBoundaries::bestOfSeveral, QuestionBoundaries::bestNotCounted, QuestionBoundaries::bestOfNone,
+            QuestionBoundaries::bestBuyerOfNoBale, QuestionBoundaries::outlookIsRun,
+            QuestionBoundaries::outlookOnTheLastTick, QuestionBoundaries::outlookOfNothing,
+            QuestionBoundaries::outlookOfGrades, QuestionBoundaries::outlookOfResidue, QuestionBoundaries::outlookOfRounds,
+            QuestionBoundaries::outlookOfTiredness, QuestionBoundaries::outlookOutOfRange, QuestionBoundaries::leastStaff,
+            QuestionBoundaries::greatestStaff, QuestionBoundaries::staffWhoAreNotTired, QuestionBoundaries::othersPicked,
+            QuestionBoundaries::staffOnTheLastTick, QuestionBoundaries::bestStaffOfNoStation,
+            QuestionBoundaries::bestStaffOutOfRange, QuestionBoundaries::emptiedAtOnce,
+            QuestionBoundaries::emptiedWithin400, QuestionBoundaries::notEmptied, QuestionBoundaries::emptiedOnTheLastTick,
+            QuestionBoundaries::questionsChangeNothing);
     }
 
     private static RecyclingLine ticked(int ticks, String text) {
@@ -169,6 +155,8 @@ final class QuestionBoundaries {
             // What is left in the bunker, 13 and 5, and 60: bales of 17 and 3 at least.
             Checks.due("only those to come", x.outlook(1, 1), limit[0].equals("100") ? 0 : x.outlook(1, 0));
         }
+        RecyclingLine first = ticked(1, BALES + "set 2 80;load 20;");
+        Checks.due("only those to come, when asked for the first time", first.outlook(1, 1), 1);
     }
 
     private static void outlookOfResidue() {
@@ -211,6 +199,8 @@ final class QuestionBoundaries {
             Checks.due("after " + ticks, x.outlook(ticks, 4), due[ticks - 1]);
         }
         Checks.due("after 200", x.outlook(200, 4), 0);
+        RecyclingLine last = Checks.lineOf("materials 1;" + "station 0 0 1 0;".repeat(7) + "station 0 9 50 0;load 9;");
+        Checks.due("of the last of eight", last.outlook(8, 4), 1);
         RecyclingLine most = Checks.lineOf("materials 1;station 0 9 50 0;set 6 5;set 0 1;load 999;");
         Checks.due("after 11", most.outlook(11, 4), 55);
         Checks.due("after 12", most.outlook(12, 4), 60);

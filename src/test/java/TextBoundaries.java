@@ -10,32 +10,15 @@ final class TextBoundaries {
     }
 
     static void all() {
-        longestText();
-        textsBeginWithMaterials();
-        statementsOfEachKind();
-        numbersInTheirOrder();
-        numbersOfALoad();
-        words();
-        names();
-        numbers();
-        blanks();
-        noOtherBlanks();
-        differentNames();
-        laterSettings();
-        loadsOfNothing();
-        leastOffset();
-        endOfTheText();
-        leastKind();
-        invalidTokens();
-        tokensNotAllowed();
-        furtherNumbers();
-        noStation();
-        numbersOutOfRange();
-        numbersThatNameNothing();
-        namesTaken();
-        ninthStation();
-        fifthBuyer();
-        loadIntoAFullHopper();
+        Checks.each(TextBoundaries::longestText, TextBoundaries::textsBeginWithMaterials,
+            TextBoundaries::statementsOfEachKind, TextBoundaries::numbersInTheirOrder, TextBoundaries::numbersOfALoad,
+            TextBoundaries::words, TextBoundaries::names, TextBoundaries::numbers, TextBoundaries::blanks,
+            TextBoundaries::noOtherBlanks, TextBoundaries::differentNames, TextBoundaries::laterSettings,
+            TextBoundaries::loadsOfNothing, TextBoundaries::leastOffset, TextBoundaries::endOfTheText,
+            TextBoundaries::leastKind, TextBoundaries::invalidTokens, TextBoundaries::tokensNotAllowed,
+            TextBoundaries::furtherNumbers, TextBoundaries::noStation, TextBoundaries::numbersOutOfRange,
+            TextBoundaries::numbersThatNameNothing, TextBoundaries::namesTaken, TextBoundaries::ninthStation,
+            TextBoundaries::fifthBuyer, TextBoundaries::loadIntoAFullHopper);
     }
 
     private static void longestText() {
@@ -138,6 +121,11 @@ final class TextBoundaries {
         Checks.refuses(LINE + "^setx 0 1;", 1);
         Checks.refuses(LINE + "^xset 0 1;", 1);
         Checks.refuses(LINE + "^s et 0 1;", 1);
+        Checks.refuses("^xaterials 1;", 1);
+        Checks.refuses("^materialx 1;", 1);
+        for (String word : new String[] {"xtation", "statiox", "xet", "sex", "sxt", "xoad", "loax", "xuyer", "buyex"}) {
+            Checks.refuses(LINE + "^" + word + " 0 0 1 0;", 1);
+        }
         Checks.refuses(LINE + "^Set 0 1;", 1);
         Checks.refuses(LINE + "^sEt 0 1;", 1);
         Checks.refuses(LINE + "^buyera 0 0 1 0 0;", 1);

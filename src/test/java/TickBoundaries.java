@@ -7,34 +7,15 @@ final class TickBoundaries {
     }
 
     static void all() {
-        divisions();
-        materials();
-        totals();
-        portions();
-        wholeHeaps();
-        hopperOfThirty();
-        roundsOfWhatIsLoaded();
-        stationNumbers();
-        stationRanges();
-        capacities();
-        settings();
-        leavingTheBelt();
-        targetsOfSomeStation();
-        loopShare();
-        atLeastOneKilogram();
-        roundsAllowed();
-        placeInTheHopper();
-        lastInTheHopper();
-        movingOn();
-        feeding();
-        feedingRounds();
-        firstOfTheHopper();
-        pickingTheTarget();
-        pickingNothing();
-        pickingOthers();
-        fillingTheBunker();
-        growingTired();
-        parcelsPickedEmpty();
+        Checks.each(TickBoundaries::divisions, TickBoundaries::materials, TickBoundaries::totals, TickBoundaries::portions,
+            TickBoundaries::wholeHeaps, TickBoundaries::hopperOfThirty, TickBoundaries::hopperInUse, TickBoundaries::roundsOfWhatIsLoaded,
+            TickBoundaries::stationNumbers, TickBoundaries::stationRanges, TickBoundaries::capacities,
+            TickBoundaries::settings, TickBoundaries::leavingTheBelt, TickBoundaries::targetsOfSomeStation,
+            TickBoundaries::loopShare, TickBoundaries::atLeastOneKilogram, TickBoundaries::roundsAllowed, TickBoundaries::heapsOfTheResidue,
+            TickBoundaries::placeInTheHopper, TickBoundaries::lastInTheHopper, TickBoundaries::movingOn,
+            TickBoundaries::feeding, TickBoundaries::feedingRounds, TickBoundaries::firstOfTheHopper,
+            TickBoundaries::pickingTheTarget, TickBoundaries::pickingNothing, TickBoundaries::pickingOthers,
+            TickBoundaries::fillingTheBunker, TickBoundaries::growingTired, TickBoundaries::parcelsPickedEmpty);
     }
 
     private static RecyclingLine ticked(int ticks, String text) {
@@ -150,6 +131,26 @@ final class TickBoundaries {
         }
         x.run(1);
         Checks.due("the hopper is empty", x.line(5), 0);
+    }
+
+    private static void hopperInUse() {
+        Sentences.holds(0, "one behind the other");
+        StringBuilder text = new StringBuilder("materials 1;station 0 0 1 0;set 0 200;set 5 0;");
+        for (int i = 1; i <= 30; i++) {
+            text.append("load ").append(i).append(";");
+        }
+        RecyclingLine x = Checks.lineOf(text.toString());
+        // More parcels than it ever holds go through it, and what is undone and loaded again stands where it stood.
+        for (int i = 31; i <= 70; i++) {
+            x.run(1);
+            x.load(0, 999);
+            x.undo();
+            Checks.due("no parcel in the last place", x.mass(45, 0), 0);
+            Checks.due("load", x.load(0, i), 30);
+            Checks.due("the first one", x.mass(16, 0), i - 29);
+            Checks.due("the last one", x.mass(45, 0), i);
+            Checks.due("all of them", x.balance(1), 30L * i - 29 * 15);
+        }
     }
 
     private static void roundsOfWhatIsLoaded() {
@@ -326,6 +327,16 @@ final class TickBoundaries {
         Checks.due("two rounds made, three allowed", y.outlook(1, 2), 0);
         y.set(5, 0);
         Checks.due("two rounds made, none allowed", y.outlook(1, 2), 9);
+    }
+
+    private static void heapsOfTheResidue() {
+        Sentences.holds(0, "otherwise its heap goes to the residue");
+        RecyclingLine x = ticked(3, "materials 3;station 0 0 1 0;set 0 200;set 5 0;load 1 2 3;load 10 20 30;load 100 40 5;");
+        Checks.masses(x, 46, 11, 22, 33);
+        Checks.due("residue", x.balance(6), 66L);
+        x.run(1);
+        Checks.masses(x, 46, 111, 62, 38);
+        Checks.due("residue", x.balance(6), 211L);
     }
 
     private static void placeInTheHopper() {
