@@ -15,12 +15,13 @@ final class AskBoundaries {
             AskBoundaries::soldAndSentBack, AskBoundaries::claimsOfNothing, AskBoundaries::lineOfOthers,
             AskBoundaries::settingValues, AskBoundaries::noSuchSetting, AskBoundaries::emptyStation,
             AskBoundaries::emptySlot, AskBoundaries::countsOfAStation, AskBoundaries::noSuchStation,
-            AskBoundaries::noSuchStationProperty, AskBoundaries::placesOfBunkersAndSlots, AskBoundaries::placesOfTheHopper,
-            AskBoundaries::placesWhereNothingIs, AskBoundaries::noSuchPlace, AskBoundaries::noSuchMaterialOfAPlace,
-            AskBoundaries::baleProperties, AskBoundaries::baleIndexes, AskBoundaries::noSuchBaleProperty,
-            AskBoundaries::buyerProperties, AskBoundaries::noSuchBuyer, AskBoundaries::noSuchBuyerProperty,
-            AskBoundaries::balances, AskBoundaries::balanceOfOthers, AskBoundaries::purityOfNone,
-            AskBoundaries::puritiesOfAllBales, AskBoundaries::purityOfNoSuchMaterial, AskBoundaries::losses);
+            AskBoundaries::noSuchStationProperty, AskBoundaries::placesOfBunkersAndSlots,
+            AskBoundaries::placesOfTheHopper, AskBoundaries::placesWhereNothingIs, AskBoundaries::noSuchPlace,
+            AskBoundaries::noSuchMaterialOfAPlace, AskBoundaries::baleProperties, AskBoundaries::baleIndexes,
+            AskBoundaries::noSuchBaleProperty, AskBoundaries::buyerProperties, AskBoundaries::noSuchBuyer,
+            AskBoundaries::noSuchBuyerProperty, AskBoundaries::balances, AskBoundaries::balanceOfOthers,
+            AskBoundaries::purityOfNone, AskBoundaries::puritiesOfAllBales, AskBoundaries::purityOfNoSuchMaterial,
+            AskBoundaries::losses);
     }
 
     private static RecyclingLine ticked(int ticks, String text) {
@@ -43,9 +44,9 @@ final class AskBoundaries {
     }
 
     private static void linesOfAnEmptyLine() {
-        Sentences.holds(7, "what: 0 the materials, 1 the stations, 2 the buyers, 3 the ticks made, 4 the parcels in the hopper, 5 the"
-            + " parcels on the belt, 6 the bales in stock, 7 the bales pressed so far, 8 the bales sold",
-            "Returns a property of the line.", "9 the bales sent back, 10 the claims");
+        Sentences.holds(7, "what: 0 the materials, 1 the stations, 2 the buyers, 3 the ticks made, 4 the parcels in"
+            + " the hopper, 5 the parcels on the belt, 6 the bales in stock, 7 the bales pressed so far, 8 the bales"
+            + " sold", "Returns a property of the line.", "9 the bales sent back, 10 the claims");
         RecyclingLine x = new RecyclingLine();
         int[] least = {1, 1, 0, 0, 0, 0, 0, 0, 0, 0, 0};
         for (int what = 0; what <= 10; what++) {
@@ -59,11 +60,13 @@ final class AskBoundaries {
     }
 
     private static void linesAtTheirGreatest() {
-        Sentences.holds(7, "0 the materials, 1 the stations, 2 the buyers, 3 the ticks made, 4 the parcels in the hopper, 5 the parcels on"
-            + " the belt, 6 the bales in stock, 7 the bales pressed so far");
+        Sentences.holds(7, "0 the materials, 1 the stations, 2 the buyers, 3 the ticks made, 4 the parcels in the"
+            + " hopper, 5 the parcels on the belt, 6 the bales in stock, 7 the bales pressed so far");
         // 800 of material 5 for 40 bales, then what no station picks any more.
-        RecyclingLine x = Checks.lineOf("materials 6;station 5 9 50 0;" + "station 4 0 1 0;".repeat(7) + "set 0 200;set 1 20;set 6 0;"
-            + "set 5 0;buyer a 0 0 1 0 0;buyer b 5 0 1 0 0;buyer c 0 0 1 0 0;buyer d 0 0 1 0 0;" + "load 0 0 0 0 0 800;" + "load 1;".repeat(20));
+        RecyclingLine x = Checks.lineOf("materials 6;station 5 9 50 0;" + "station 4 0 1 0;".repeat(7)
+            + "set 0 200;set 1 20;set 6 0;set 5 0;"
+            + "buyer a 0 0 1 0 0;buyer b 5 0 1 0 0;buyer c 0 0 1 0 0;buyer d 0 0 1 0 0;"
+            + "load 0 0 0 0 0 800;" + "load 1;".repeat(20));
         x.run(4);
         Checks.due("materials", x.line(0), 6);
         Checks.due("stations", x.line(1), 8);
@@ -98,7 +101,8 @@ final class AskBoundaries {
     }
 
     private static void claimsOfNothing() {
-        Sentences.holds(7, "10 the claims (a claim of 0 is counted, too, where the impurity is greater than the tolerance)");
+        Sentences.holds(7, "10 the claims (a claim of 0 is counted, too, where the impurity is greater than the"
+            + " tolerance)");
         // Tolerance, claim, what is paid for an impurity of 20, and the claims.
         int[][] cases = {{20, 20, 40, 0}, {19, 0, 40, 1}, {19, 1, 39, 1}, {21, 20, 40, 0}};
         for (int[] one : cases) {
@@ -158,8 +162,9 @@ final class AskBoundaries {
     }
 
     private static void emptyStation() {
-        Sentences.holds(9, "what: 0 its target, 1 its pickers, 2 its rate, 3 its error, 4 its tiredness, 5 its capacity, 6 the total of"
-            + " its bunker", "Returns a property of a station.", "station: a station", "Returns the property.");
+        Sentences.holds(9, "what: 0 its target, 1 its pickers, 2 its rate, 3 its error, 4 its tiredness, 5 its"
+            + " capacity, 6 the total of its bunker", "Returns a property of a station.", "station: a station",
+            "Returns the property.");
         RecyclingLine x = Checks.lineOf("materials 6;station 0 0 1 0;station 5 9 50 30;set 0 200;load 10 0 0 0 0 100;");
         Checks.properties(x, 0, 0, 0, 1, 0, 0, 0, 0, 0, -1, 0, 0);
         Checks.properties(x, 1, 5, 9, 50, 30, 0, 450, 0, 0, -1, 0, 0);
@@ -170,7 +175,8 @@ final class AskBoundaries {
     }
 
     private static void emptySlot() {
-        Sentences.holds(9, "7 the total of the parcel in its slot (0 if it is empty), 8 the rounds of that parcel (NONE if it is empty)");
+        Sentences.holds(9, "7 the total of the parcel in its slot (0 if it is empty), 8 the rounds of that parcel"
+            + " (NONE if it is empty)");
         RecyclingLine x = Checks.lineOf("materials 1;station 0 0 1 0;set 5 1;load 1;");
         Checks.due("empty", x.station(0, 7) * 10 + x.station(0, 8), -1);
         x.run(1);
@@ -186,7 +192,8 @@ final class AskBoundaries {
     }
 
     private static void countsOfAStation() {
-        Sentences.holds(9, "9 the bales pressed from its bunker so far, 10 all that it has picked so far, of its target and of others");
+        Sentences.holds(9, "9 the bales pressed from its bunker so far, 10 all that it has picked so far, of its"
+            + " target and of others");
         RecyclingLine x = ticked(1, BALES + "station 1 1 10 0;buyer a 0 2 1 99 99;");
         Checks.due("pressed", x.station(0, 9), 3);
         Checks.due("picked: 60 and 18", x.station(0, 10), 78);
@@ -230,8 +237,8 @@ final class AskBoundaries {
     }
 
     private static void placesOfBunkersAndSlots() {
-        Sentences.holds(10, "place: 0 to 7 the bunker of that station, 8 to 15 the parcel in the slot of station (place - 8)",
-            "Returns a mass.");
+        Sentences.holds(10, "place: 0 to 7 the bunker of that station, 8 to 15 the parcel in the slot of station"
+            + " (place - 8)", "Returns a mass.");
         StringBuilder text = new StringBuilder("materials 2;set 0 200;set 5 0;set 6 0;");
         for (int i = 1; i <= 8; i++) {
             text.append("station 0 1 ").append(i).append(" 0;");
@@ -318,8 +325,9 @@ final class AskBoundaries {
     }
 
     private static void baleProperties() {
-        Sentences.holds(11, "what: 0 its serial number, 1 its material, 2 its total, 3 its purity, 4 its grade, 5 + m (m a material) its mass"
-            + " of material m", "Returns a property of a bale in stock.", "Returns the property.");
+        Sentences.holds(11, "what: 0 its serial number, 1 its material, 2 its total, 3 its purity, 4 its grade, 5 + m"
+            + " (m a material) its mass of material m", "Returns a property of a bale in stock.",
+            "Returns the property.");
         RecyclingLine x = ticked(1, BALES + "set 2 80;set 3 75;");
         int[][] due = {{0, 0, 20, 80, 0, 16, 4}, {1, 0, 20, 80, 0, 16, 4}, {2, 0, 20, 75, 1, 15, 5}};
         for (int bale = 0; bale < 3; bale++) {
@@ -373,8 +381,8 @@ final class AskBoundaries {
     }
 
     private static void buyerProperties() {
-        Sentences.holds(12, "what: 0 its material, 1 its worst grade, 2 its price, 3 its tolerance, 4 its limit, 5 what it has paid so far",
-            "Returns a property of a buyer.", "Returns the property.", "buyer: a buyer");
+        Sentences.holds(12, "what: 0 its material, 1 its worst grade, 2 its price, 3 its tolerance, 4 its limit, 5"
+            + " what it has paid so far", "Returns a property of a buyer.", "Returns the property.", "buyer: a buyer");
         RecyclingLine x = ticked(1, BALES + "buyer a 1 0 1 98 97;buyer b 0 2 9999 20 100;");
         x.sell(0, 1);
         x.sell(0, 1);
@@ -426,8 +434,8 @@ final class AskBoundaries {
     }
 
     private static void balances() {
-        Sentences.holds(13, "what: 0 all that was loaded, 1 in the hopper, 2 on the belt, 3 in bunkers, 4 in bales in stock, 5 in bales sold,"
-            + " 6 the residue, 7 what clean() has taken away", "Returns totals of mass.");
+        Sentences.holds(13, "what: 0 all that was loaded, 1 in the hopper, 2 on the belt, 3 in bunkers, 4 in bales in"
+            + " stock, 5 in bales sold, 6 the residue, 7 what clean() has taken away", "Returns totals of mass.");
         balancesAre(new RecyclingLine(), 0, 0, 0, 0, 0, 0, 0, 0);
         RecyclingLine x = Checks.lineOf(BALES + "buyer a 0 2 1 99 99;buyer b 0 2 1 99 0;");
         balancesAre(x, 100, 100, 0, 0, 0, 0, 0, 0);
@@ -484,8 +492,8 @@ final class AskBoundaries {
     }
 
     private static void puritiesOfAllBales() {
-        Sentences.holds(14, "Returns the mass of this material in all bales pressed so far whose material it is, divided by the total of these"
-            + " bales, as doubles", "material: a material");
+        Sentences.holds(14, "Returns the mass of this material in all bales pressed so far whose material it is,"
+            + " divided by the total of these bales, as doubles", "material: a material");
         RecyclingLine x = ticked(1, BALES + "station 1 9 50 0;buyer a 0 2 1 99 99;buyer b 0 2 1 99 0;");
         Checks.due("of three bales", x.purity(0), 47.0 / 60.0);
         x.run(1);
@@ -519,7 +527,8 @@ final class AskBoundaries {
     }
 
     private static void losses() {
-        Sentences.holds(15, "Returns the residue divided by the residue and all bales pressed so far together, as floats; 0.0f if both are 0.");
+        Sentences.holds(15, "Returns the residue divided by the residue and all bales pressed so far together, as"
+            + " floats; 0.0f if both are 0.");
         Checks.due("both are 0", new RecyclingLine().loss(), 0.0f);
         RecyclingLine none = ticked(1, "materials 1;station 0 1 20 0;load 99;");
         Checks.due("both are 0, whatever is in hopper, belt and bunker", none.loss(), 0.0f);

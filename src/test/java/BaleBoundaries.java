@@ -170,8 +170,8 @@ final class BaleBoundaries {
     }
 
     private static void grades() {
-        Sentences.holds(0, "and a grade: 0 (A) if the purity is at least limit A, otherwise 1 (B) if it is at least limit B, otherwise 2"
-            + " (C)");
+        Sentences.holds(0, "and a grade: 0 (A) if the purity is at least limit A, otherwise 1 (B) if it is at least"
+            + " limit B, otherwise 2 (C)");
         Checks.due("A: at least", gradeWith(90, 80, 10), 0);
         Checks.due("A: not", gradeWith(91, 80, 10), 1);
         Checks.due("B: at least", gradeWith(91, 90, 10), 1);
@@ -220,8 +220,8 @@ final class BaleBoundaries {
     }
 
     private static void rangesOfBuyers() {
-        Sentences.holds(0, "A buyer has a material, a worst grade (0 to 2) that it takes, a price (1 to 9999), a tolerance and a limit (0"
-            + " to 100 each).");
+        Sentences.holds(0, "A buyer has a material, a worst grade (0 to 2) that it takes, a price (1 to 9999), a"
+            + " tolerance and a limit (0 to 100 each).");
         String text = "materials 3;station 0 0 1 0;buyer a ";
         int[][] due = {{0, 0, 1, 0, 0, 0}, {2, 2, 9999, 100, 100, 0}};
         RecyclingLine x = Checks.lineOf(text + "0 0 1 0 0;buyer b 2 2 9999 100 100;");
@@ -270,7 +270,8 @@ final class BaleBoundaries {
     }
 
     private static void worths() {
-        Sentences.holds(0, "Otherwise the worth is the price for grade 0, price * 70 / 100 for grade 1, price * 40 / 100 for grade 2");
+        Sentences.holds(0, "Otherwise the worth is the price for grade 0, price * 70 / 100 for grade 1, price * 40 /"
+            + " 100 for grade 2");
         String[] limits = {"set 2 90;set 3 80;", "set 2 91;set 3 90;", "set 2 92;set 3 91;"};
         int[][] cases = {{1, 1, 0, 0}, {2, 2, 1, 0}, {3, 3, 2, 1}, {99, 99, 69, 39}, {9999, 9999, 6999, 3999}};
         for (int[] one : cases) {

@@ -10,9 +10,9 @@ final class BufferBoundaries {
         Checks.each(BufferBoundaries::newObject, BufferBoundaries::emptyBufferOfANewObject,
             BufferBoundaries::appendedBytes, BufferBoundaries::appendedSigns, BufferBoundaries::fullBuffer,
             BufferBoundaries::shortened, BufferBoundaries::truncateBounds, BufferBoundaries::bufferLengths,
-            BufferBoundaries::readReplaces, BufferBoundaries::readsInTurn, BufferBoundaries::readEmpties, BufferBoundaries::readAnswers,
-            BufferBoundaries::refusedReadKeeps, BufferBoundaries::foundNames, BufferBoundaries::findEmpties,
-            BufferBoundaries::foundNone);
+            BufferBoundaries::readReplaces, BufferBoundaries::readsInTurn, BufferBoundaries::readEmpties,
+            BufferBoundaries::readAnswers, BufferBoundaries::refusedReadKeeps, BufferBoundaries::foundNames,
+            BufferBoundaries::findEmpties, BufferBoundaries::foundNone);
     }
 
     private static void newObject() {
@@ -35,8 +35,8 @@ final class BufferBoundaries {
     }
 
     private static void appendedBytes() {
-        Sentences.holds(2, "Appends twenty bytes to the input buffer: the four bytes of each argument, most significant byte"
-            + " first.");
+        Sentences.holds(2, "Appends twenty bytes to the input buffer: the four bytes of each argument, most"
+            + " significant byte first.");
         // A byte that begins no token, at each of the twenty places in turn.
         for (int place = 0; place < 20; place++) {
             RecyclingLine x = new RecyclingLine();
@@ -69,8 +69,8 @@ final class BufferBoundaries {
     }
 
     private static void fullBuffer() {
-        Sentences.holds(2, "Returns the new length of the buffer; NONE, and the buffer is unchanged, if it would exceed 700"
-            + " bytes.");
+        Sentences.holds(2, "Returns the new length of the buffer; NONE, and the buffer is unchanged, if it would"
+            + " exceed 700 bytes.");
         RecyclingLine x = new RecyclingLine();
         for (int length = 20; length <= 700; length += 20) {
             Checks.due("append", x.append(0x20202020, 0x20202020, 0x20202020, 0x20202020, 0x20202020), length);
@@ -109,8 +109,8 @@ final class BufferBoundaries {
     }
 
     private static void truncateBounds() {
-        Sentences.holds(3, "Returns true; false, and the buffer is unchanged, if length is negative or greater than the"
-            + " current length.");
+        Sentences.holds(3, "Returns true; false, and the buffer is unchanged, if length is negative or greater than"
+            + " the current length.");
         RecyclingLine x = new RecyclingLine();
         Checks.due("an empty buffer to 0", x.truncate(0), true);
         Checks.due("an empty buffer to 1", x.truncate(1), false);
@@ -164,17 +164,17 @@ final class BufferBoundaries {
 
     private static void readsInTurn() {
         Sentences.holds(5, "which replaces everything");
-        String used = "materials 2;station 1 9 50 30;station 0 1 9 0;station 1 0 1 0;set 0 200;set 1 20;set 4 0;set 5 0;set 7 9;"
+        String used = "materials 2;station 1 9 50 30;station 0 1 9 0;station 1 0 1 0;set 0 200;set 1 20;set 4 0;set 5 0;set 7 1;"
             + "buyer b 1 2 99 0 99;buyer c 1 2 9 0 0;load 70 90;load 50 150;load 9;load 9;load 9;load 9;";
-        String text = "materials 2;station 0 0 1 0;buyer a 1 0 1 0 0;";
+        String text = "materials 2;station 1 9 50 0;set 1 20;buyer a 1 0 1 0 0;";
         for (int before = 0; before < 6; before++) {
             RecyclingLine x = new RecyclingLine();
             // One, two or three texts behind the one that was used: an object may keep some lines that it uses in turn.
             Checks.type(x, used);
             x.read();
             x.run(5);
-            x.sell(0, 0);
-            x.sell(0, 1);
+            Checks.due("sold", x.sell(0, 0) > 0, true);
+            Checks.due("sent back", x.sell(0, 1), -1);
             x.clean(before % 2);
             for (int i = 0; i < before / 2; i++) {
                 Checks.type(x, text);
@@ -191,6 +191,11 @@ final class BufferBoundaries {
             Checks.finds(x, "b", -1);
             Checks.finds(x, "a", 0);
             Checks.due("what can be undone", x.undo(), 0);
+            x.load(1, 20);
+            fresh.load(1, 20);
+            x.run(2);
+            fresh.run(2);
+            Checks.due("everything later", Checks.everything(x), Checks.everything(fresh));
         }
     }
 
@@ -208,7 +213,8 @@ final class BufferBoundaries {
     }
 
     private static void readAnswers() {
-        Sentences.holds(5, "Returns the number of stations; if there is an error, -(8 * offset + kind), and everything stays.");
+        Sentences.holds(5, "Returns the number of stations; if there is an error, -(8 * offset + kind), and"
+            + " everything stays.");
         Checks.reads("materials 1;station 0 0 1 0;", 1);
         Checks.reads("materials 1;" + "station 0 0 1 0;".repeat(8), 8);
         Checks.refuses("^", 1);

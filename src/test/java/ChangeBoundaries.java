@@ -17,16 +17,17 @@ final class ChangeBoundaries {
 
     static void all() {
         Checks.each(ChangeBoundaries::loadsLast, ChangeBoundaries::loadAnswers, ChangeBoundaries::loadOfNoMaterial,
-            ChangeBoundaries::loadOutOfRange, ChangeBoundaries::loadIntoAFullHopper, ChangeBoundaries::setOfEachSetting,
-            ChangeBoundaries::setAnswers, ChangeBoundaries::setOfNoSetting, ChangeBoundaries::setOutOfRange,
-            ChangeBoundaries::staffNotTired, ChangeBoundaries::staffAnswers, ChangeBoundaries::staffOfNoStation,
-            ChangeBoundaries::staffOutOfRange, ChangeBoundaries::runMakesTicks, ChangeBoundaries::runAnswers,
-            ChangeBoundaries::runOutOfRange, ChangeBoundaries::runUpTo9999, ChangeBoundaries::sellLeavesTheStock,
-            ChangeBoundaries::sellSendsBack, ChangeBoundaries::sellAnswers, ChangeBoundaries::sellOfNoBaleOrBuyer,
-            ChangeBoundaries::sellOfWhatIsNotTaken, ChangeBoundaries::sellBackIntoAFullHopper,
-            ChangeBoundaries::cleanTakesAway, ChangeBoundaries::cleanAnswers, ChangeBoundaries::cleanOfNoStation,
-            ChangeBoundaries::sixChanges, ChangeBoundaries::changesOfNothing, ChangeBoundaries::allAsItWas,
-            ChangeBoundaries::bufferStays, ChangeBoundaries::readForgets, ChangeBoundaries::refusedCallsChangeNothing,
+            ChangeBoundaries::loadOutOfRange, ChangeBoundaries::loadIntoAFullHopper,
+            ChangeBoundaries::setOfEachSetting, ChangeBoundaries::setAnswers, ChangeBoundaries::setOfNoSetting,
+            ChangeBoundaries::setOutOfRange, ChangeBoundaries::staffNotTired, ChangeBoundaries::staffAnswers,
+            ChangeBoundaries::staffOfNoStation, ChangeBoundaries::staffOutOfRange, ChangeBoundaries::runMakesTicks,
+            ChangeBoundaries::runAnswers, ChangeBoundaries::runOutOfRange, ChangeBoundaries::runUpTo9999,
+            ChangeBoundaries::sellLeavesTheStock, ChangeBoundaries::sellSendsBack, ChangeBoundaries::sellAnswers,
+            ChangeBoundaries::sellOfNoBaleOrBuyer, ChangeBoundaries::sellOfWhatIsNotTaken,
+            ChangeBoundaries::sellBackIntoAFullHopper, ChangeBoundaries::cleanTakesAway,
+            ChangeBoundaries::cleanAnswers, ChangeBoundaries::cleanOfNoStation, ChangeBoundaries::sixChanges,
+            ChangeBoundaries::changesOfNothing, ChangeBoundaries::allAsItWas, ChangeBoundaries::bufferStays,
+            ChangeBoundaries::readForgets, ChangeBoundaries::refusedCallsChangeNothing,
             ChangeBoundaries::refusedCallsAreNoChanges, ChangeBoundaries::bufferReadersEmptyIt,
             ChangeBoundaries::firstException, ChangeBoundaries::undoOfTheLatest, ChangeBoundaries::undoAnswers);
     }
@@ -325,8 +326,8 @@ final class ChangeBoundaries {
     }
 
     private static void sellOfNoBaleOrBuyer() {
-        Sentences.holds(20, "Throws IndexOutOfBoundsException if there is no such bale or buyer", "bale: an index into the stock",
-            "buyer: a buyer");
+        Sentences.holds(20, "Throws IndexOutOfBoundsException if there is no such bale or buyer",
+            "bale: an index into the stock", "buyer: a buyer");
         RecyclingLine x = ticked(1, BALES + "buyer a 0 2 1 99 99;buyer b 0 2 1 99 99;");
         Checks.dueThrow("bale -1", INDEX, () -> x.sell(-1, 0));
         Checks.dueThrow("bale 3 of 3", INDEX, () -> x.sell(3, 0));

@@ -271,31 +271,42 @@ public final class ChangesTest {
     }
 
     private static void undoingAll() {
-        RecyclingLine x = Checks.lineOf(BALES + "station 1 2 9 0;buyer a 0 2 1000 10 20;buyer b 0 2 1000 0 0;load 9 9;");
-        String[] before = new String[6];
-        x.load(1, 5);
-        x.run(1);
-        for (int round = 0; round < 3; round++) {
-            before[0] = Checks.everything(x);
-            x.sell(0, 0);
-            before[1] = Checks.everything(x);
-            x.sell(0, 1);
-            before[2] = Checks.everything(x);
-            x.run(7);
-            before[3] = Checks.everything(x);
-            x.clean(0);
-            before[4] = Checks.everything(x);
-            x.staff(1, 4);
-            before[5] = Checks.everything(x);
-            x.set(6, round);
-            for (int i = 5; i >= 0; i--) {
-                Checks.due("undo", x.undo(), i);
-                Checks.due("all as before change " + i, Checks.everything(x), before[i]);
+        for (int kept = 0; kept <= 6; kept++) {
+            RecyclingLine before = lineToChange();
+            change(before, kept);
+            RecyclingLine x = lineToChange();
+            change(x, 6);
+            for (int left = 5; left >= kept; left--) {
+                Checks.due("undo", x.undo(), left);
             }
-            Checks.due("undo", x.undo(), -1);
+            Checks.due("all as after " + kept + " changes", Checks.everything(x), Checks.everything(before));
             Checks.type(x, "b");
             Checks.due("the names of the buyers", x.find(), 1);
-            x.load(0, 3);
+            // What is changed then is changed as if nothing had been undone.
+            before.run(3);
+            x.run(3);
+            Checks.due("all as three ticks later", Checks.everything(x), Checks.everything(before));
+            Checks.due("undo", x.undo(), Math.min(kept, 5));
+        }
+    }
+
+    private static RecyclingLine lineToChange() {
+        RecyclingLine x = Checks.lineOf(BALES + "station 1 2 9 0;buyer a 0 2 1000 10 20;buyer b 0 2 1000 0 0;load 9 9;");
+        x.load(1, 5);
+        x.run(1);
+        return x;
+    }
+
+    private static void change(RecyclingLine x, int changes) {
+        for (int i = 0; i < changes; i++) {
+            switch (i) {
+                case 0: x.sell(0, 0); break;
+                case 1: x.sell(0, 1); break;
+                case 2: x.run(7); break;
+                case 3: x.clean(0); break;
+                case 4: x.staff(1, 4); break;
+                default: x.set(6, 3); break;
+            }
         }
     }
 
@@ -326,30 +337,14 @@ public final class ChangesTest {
     }
 
     private static void outlooks() {
-        RecyclingLine x = Checks.lineOf("materials 3;station 0 3 9 20;station 1 1 30 5;set 0 60;set 1 40;set 2 85;"
-            + "set 6 4;load 90 60 9;load 20 99 40;load 50;buyer a 0 2 10 0 0;");
-        x.run(8);
-        Checks.due("there are bales of grade 0 and others", x.line(7) > 1 && x.bale(0, 4) * x.bale(1, 4) == 0, true);
-        Checks.due("and residue", x.balance(6) > 0, true);
-        x.load(0, 60);
         for (int ticks = 1; ticks <= 30; ticks++) {
-            String before = Checks.everything(x);
-            int[] told = new int[5];
-            for (int what = 0; what < 5; what++) {
-                told[what] = x.outlook(ticks, what);
-            }
-            Checks.due("nothing is changed", Checks.everything(x), before);
-            long residue = x.balance(6);
-            int stock = x.line(6);
-            Checks.due("outlook(, 0)", told[0], x.run(ticks));
-            int best = 0;
-            for (int bale = stock; bale < x.line(6); bale++) {
-                best += x.bale(bale, 4) == 0 ? 1 : 0;
-            }
-            Checks.due("outlook(, 1)", told[1], best);
-            Checks.due("outlook(, 2)", (long) told[2], x.balance(6) - residue);
-            Checks.due("outlook(, 4)", told[4], Math.max(x.station(0, 4), x.station(1, 4)));
-            x.undo();
+            RecyclingLine x = Checks.lineOf("materials 3;station 0 3 9 20;station 1 1 30 5;set 0 60;set 1 40;set 2 85;"
+                + "set 6 4;load 90 60 9;load 20 99 40;load 50;buyer a 0 2 10 0 0;");
+            x.run(8);
+            Checks.due("there are bales of grade 0 and others", x.line(7) > 1 && x.bale(0, 4) * x.bale(1, 4) == 0, true);
+            Checks.due("and residue", x.balance(6) > 0, true);
+            x.load(0, 60);
+            outlook(x, ticks);
         }
         RecyclingLine y = Checks.lineOf("materials 1;station 0 0 1 0;set 0 10;load 30;");
         int[] rounds = {0, 1, 2, 3, 4, 5, 6, 6, 6, 6};
@@ -361,6 +356,25 @@ public final class ChangesTest {
         Checks.due("in 200 ticks", y.outlook(200, 2), 30);
         Checks.due("no one is tired", y.outlook(200, 4), 0);
         Checks.due("undo", y.undo(), 0);
+    }
+
+    private static void outlook(RecyclingLine x, int ticks) {
+        String before = Checks.everything(x);
+        int[] told = new int[5];
+        for (int what = 0; what < 5; what++) {
+            told[what] = x.outlook(ticks, what);
+        }
+        Checks.due("nothing is changed", Checks.everything(x), before);
+        long residue = x.balance(6);
+        int stock = x.line(6);
+        Checks.due("outlook(, 0)", told[0], x.run(ticks));
+        int best = 0;
+        for (int bale = stock; bale < x.line(6); bale++) {
+            best += x.bale(bale, 4) == 0 ? 1 : 0;
+        }
+        Checks.due("outlook(, 1)", told[1], best);
+        Checks.due("outlook(, 2)", (long) told[2], x.balance(6) - residue);
+        Checks.due("outlook(, 4)", told[4], Math.max(x.station(0, 4), x.station(1, 4)));
     }
 
     private static void bestStaffs() {

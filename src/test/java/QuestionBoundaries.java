@@ -11,16 +11,17 @@ final class QuestionBoundaries {
     }
 
     static void all() {
-        Checks.each(QuestionBoundaries::bestOfSeveral, QuestionBoundaries::bestNotCounted, QuestionBoundaries::bestOfNone,
-            QuestionBoundaries::bestBuyerOfNoBale, QuestionBoundaries::outlookIsRun,
+        Checks.each(QuestionBoundaries::bestOfSeveral, QuestionBoundaries::bestNotCounted,
+            QuestionBoundaries::bestOfNone, QuestionBoundaries::bestBuyerOfNoBale, QuestionBoundaries::outlookIsRun,
             QuestionBoundaries::outlookOnTheLastTick, QuestionBoundaries::outlookOfNothing,
-            QuestionBoundaries::outlookOfGrades, QuestionBoundaries::outlookOfResidue, QuestionBoundaries::outlookOfRounds,
-            QuestionBoundaries::outlookOfTiredness, QuestionBoundaries::outlookOutOfRange, QuestionBoundaries::leastStaff,
-            QuestionBoundaries::greatestStaff, QuestionBoundaries::staffWhoAreNotTired, QuestionBoundaries::othersPicked,
+            QuestionBoundaries::outlookOfGrades, QuestionBoundaries::outlookOfResidue,
+            QuestionBoundaries::outlookOfRounds, QuestionBoundaries::outlookOfTiredness,
+            QuestionBoundaries::outlookOutOfRange, QuestionBoundaries::leastStaff, QuestionBoundaries::greatestStaff,
+            QuestionBoundaries::staffWhoAreNotTired, QuestionBoundaries::othersPicked,
             QuestionBoundaries::staffOnTheLastTick, QuestionBoundaries::bestStaffOfNoStation,
             QuestionBoundaries::bestStaffOutOfRange, QuestionBoundaries::emptiedAtOnce,
-            QuestionBoundaries::emptiedWithin400, QuestionBoundaries::notEmptied, QuestionBoundaries::emptiedOnTheLastTick,
-            QuestionBoundaries::questionsChangeNothing);
+            QuestionBoundaries::emptiedWithin400, QuestionBoundaries::notEmptied,
+            QuestionBoundaries::emptiedOnTheLastTick, QuestionBoundaries::questionsChangeNothing);
     }
 
     private static RecyclingLine ticked(int ticks, String text) {
@@ -85,7 +86,8 @@ final class QuestionBoundaries {
     }
 
     private static void bestBuyerOfNoBale() {
-        Sentences.holds(23, "Throws IndexOutOfBoundsException if there is no such bale", "bale: an index into the stock");
+        Sentences.holds(23, "Throws IndexOutOfBoundsException if there is no such bale",
+            "bale: an index into the stock");
         RecyclingLine x = Checks.lineOf(BALES + "buyer a 0 2 9 99 99;");
         Checks.dueThrow("an empty stock", INDEX, () -> x.bestBuyer(0));
         x.run(1);
@@ -241,8 +243,8 @@ final class QuestionBoundaries {
     }
 
     private static void greatestStaff() {
-        Sentences.holds(25, "Returns the number of pickers, 0 to 9, with which, if staff() were called now and so many ticks were made then, the"
-            + " station would have picked most in them");
+        Sentences.holds(25, "Returns the number of pickers, 0 to 9, with which, if staff() were called now and so"
+            + " many ticks were made then, the station would have picked most in them");
         Checks.due("80 of 8", Checks.lineOf("materials 1;station 0 0 10 0;set 0 200;load 80;").bestStaff(0, 1), 8);
         Checks.due("81 of 9", Checks.lineOf("materials 1;station 0 0 10 0;set 0 200;load 81;").bestStaff(0, 1), 9);
         Checks.due("999 of 9", Checks.lineOf("materials 1;station 0 0 10 0;set 0 200;load 999;").bestStaff(0, 1), 9);
@@ -318,7 +320,8 @@ final class QuestionBoundaries {
     }
 
     private static void emptiedAtOnce() {
-        Sentences.holds(26, "Returns the least number of ticks, 0 to 400, after which the hopper and the belt are empty");
+        Sentences.holds(26, "Returns the least number of ticks, 0 to 400, after which the hopper and the belt are"
+            + " empty");
         Checks.due("empty now", new RecyclingLine().emptied(), 0);
         RecyclingLine x = Checks.lineOf("materials 1;station 0 0 1 0;set 5 0;load 9;");
         Checks.due("hopper, belt, residue", x.emptied(), 2);

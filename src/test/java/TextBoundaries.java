@@ -50,8 +50,8 @@ final class TextBoundaries {
     }
 
     private static void statementsOfEachKind() {
-        Sentences.holds(0, "statement = \"station\" NUMBER NUMBER NUMBER NUMBER | \"set\" NUMBER NUMBER"
-            + " | \"load\" NUMBER { NUMBER } | \"buyer\" NAME NUMBER NUMBER NUMBER NUMBER NUMBER");
+        Sentences.holds(0, "statement = \"station\" NUMBER NUMBER NUMBER NUMBER | \"set\" NUMBER NUMBER | \"load\""
+            + " NUMBER { NUMBER } | \"buyer\" NAME NUMBER NUMBER NUMBER NUMBER NUMBER");
         String[] statements = {"station 0 0 1 0", "set 0 1", "buyer a 0 0 1 0 0"};
         for (String statement : statements) {
             Checks.reads(LINE + statement + ";", statement.startsWith("station") ? 2 : 1);
@@ -74,7 +74,8 @@ final class TextBoundaries {
     }
 
     private static void numbersInTheirOrder() {
-        Sentences.holds(0, "The numbers of station are target, pickers, rate and error; those of set a setting and its value");
+        Sentences.holds(0, "The numbers of station are target, pickers, rate and error; those of set a setting and"
+            + " its value");
         RecyclingLine x = Checks.lineOf("materials 6;station 5 9 50 30;station 1 2 3 4;set 6 5;");
         Checks.properties(x, 0, 5, 9, 50, 30);
         Checks.properties(x, 1, 1, 2, 3, 4);
@@ -91,8 +92,8 @@ final class TextBoundaries {
     }
 
     private static void numbersOfALoad() {
-        Sentences.holds(0, "those of load the masses of the materials 0, 1 and so on (at most as many as there are materials,"
-            + " 0 to 999 each, the others are 0)");
+        Sentences.holds(0, "those of load the masses of the materials 0, 1 and so on (at most as many as there are"
+            + " materials, 0 to 999 each, the others are 0)");
         for (int materials = 1; materials <= 6; materials++) {
             StringBuilder text = new StringBuilder("materials " + materials + ";station 0 0 1 0;");
             for (int count = 1; count <= materials; count++) {
@@ -137,7 +138,8 @@ final class TextBoundaries {
     }
 
     private static void names() {
-        Sentences.holds(0, "a NAME is a word of 1 to 6 letters other than the words in quotation marks in this grammar");
+        Sentences.holds(0, "a NAME is a word of 1 to 6 letters other than the words in quotation marks in this"
+            + " grammar");
         String rest = " 0 0 1 0 0;";
         String[] good = {"a", "z", "abcdef", "zzzzzz", "se", "sett", "loa", "loads", "buye", "buyers", "statio", "materi",
             "tes", "name", "number", "text"};
@@ -179,8 +181,8 @@ final class TextBoundaries {
     }
 
     private static void blanks() {
-        Sentences.holds(0, "Spaces (32) and newlines (10) may stand before the first token, between any two tokens and behind"
-            + " the last one.");
+        Sentences.holds(0, "Spaces (32) and newlines (10) may stand before the first token, between any two tokens"
+            + " and behind the last one.");
         String[] tokens = {"materials", "2", ";", "buyer", "a", "1", "2", "30", "4", "5", ";", "load", "9", "8", ";", "station",
             "1", "3", "7", "6", ";", "set", "0", "44", ";"};
         String due = Checks.everything(Checks.lineOf(join(" ", tokens)));

@@ -103,6 +103,31 @@ public final class TextsTest {
     }
 
     private static void readReplacesEverything() {
+        String text = "materials 3;station 2 3 10 0;station 0 1 10 0;set 1 20;load 60 4;load 9 0 60;buyer b 1 0 5 0 0;";
+        RecyclingLine other = Checks.lineOf(text);
+        String fresh = Checks.everything(other);
+        other.run(5);
+        String later = Checks.everything(other);
+        Checks.due("it has bales", other.line(6) > 1, true);
+        // More than once, for an object may well keep two lines that it uses in turn.
+        for (int reads = 1; reads <= 3; reads++) {
+            RecyclingLine x = usedLine();
+            for (int i = 1; i < reads; i++) {
+                Checks.type(x, text);
+                x.read();
+                x.run(5);
+            }
+            Checks.type(x, text);
+            Checks.due("read", x.read(), 2);
+            Checks.due("a line used before is as a new one", Checks.everything(x), fresh);
+            Checks.due("nothing can be undone", x.undo(), -1);
+            Checks.finds(x, "a", -1);
+            x.run(5);
+            Checks.due("and runs as a new one", Checks.everything(x), later);
+        }
+    }
+
+    private static RecyclingLine usedLine() {
         RecyclingLine x = Checks.lineOf("materials 2;station 0 9 50 30;station 1 0 50 0;set 1 20;set 0 200;set 4 0;"
             + "buyer a 0 2 100 99 100;load 90 70;load 30 9;load 50 150;load 150 50;");
         x.set(5, 0);
@@ -114,22 +139,7 @@ public final class TextsTest {
         Checks.due("and parcels on the belt", x.line(5), 2);
         x.sell(0, 0);
         x.clean(0);
-        String text = "materials 3;station 2 3 10 0;station 0 1 10 0;set 1 20;load 60 4;load 9 0 60;buyer b 1 0 5 0 0;";
-        RecyclingLine other = Checks.lineOf(text);
-        String fresh = Checks.everything(other);
-        other.run(5);
-        String later = Checks.everything(other);
-        Checks.due("it has bales", other.line(6) > 1, true);
-        // Twice, for an object may well keep two lines that it uses in turn.
-        for (int i = 0; i < 3; i++) {
-            Checks.type(x, text);
-            Checks.due("read", x.read(), 2);
-            Checks.due("a line used before is as a new one", Checks.everything(x), fresh);
-            Checks.due("nothing can be undone", x.undo(), -1);
-            Checks.finds(x, "a", -1);
-            x.run(5);
-            Checks.due("and runs as a new one", Checks.everything(x), later);
-        }
+        return x;
     }
 
     /** Kind 1. The sign ^ stands ahead of the token that is reported. */

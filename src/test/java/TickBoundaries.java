@@ -7,11 +7,12 @@ final class TickBoundaries {
     }
 
     static void all() {
-        Checks.each(TickBoundaries::divisions, TickBoundaries::materials, TickBoundaries::totals, TickBoundaries::portions,
-            TickBoundaries::wholeHeaps, TickBoundaries::hopperOfThirty, TickBoundaries::hopperInUse, TickBoundaries::roundsOfWhatIsLoaded,
-            TickBoundaries::stationNumbers, TickBoundaries::stationRanges, TickBoundaries::capacities,
-            TickBoundaries::settings, TickBoundaries::leavingTheBelt, TickBoundaries::targetsOfSomeStation,
-            TickBoundaries::loopShare, TickBoundaries::atLeastOneKilogram, TickBoundaries::roundsAllowed, TickBoundaries::heapsOfTheResidue,
+        Checks.each(TickBoundaries::divisions, TickBoundaries::materials, TickBoundaries::totals,
+            TickBoundaries::portions, TickBoundaries::wholeHeaps, TickBoundaries::hopperOfThirty,
+            TickBoundaries::hopperInUse, TickBoundaries::roundsOfWhatIsLoaded, TickBoundaries::stationNumbers,
+            TickBoundaries::stationRanges, TickBoundaries::capacities, TickBoundaries::settings,
+            TickBoundaries::leavingTheBelt, TickBoundaries::targetsOfSomeStation, TickBoundaries::loopShare,
+            TickBoundaries::atLeastOneKilogram, TickBoundaries::roundsAllowed, TickBoundaries::heapsOfTheResidue,
             TickBoundaries::placeInTheHopper, TickBoundaries::lastInTheHopper, TickBoundaries::movingOn,
             TickBoundaries::feeding, TickBoundaries::feedingRounds, TickBoundaries::firstOfTheHopper,
             TickBoundaries::pickingTheTarget, TickBoundaries::pickingNothing, TickBoundaries::pickingOthers,
@@ -70,9 +71,9 @@ final class TickBoundaries {
     }
 
     private static void portions() {
-        Sentences.holds(0, "A portion of p kilograms of a heap with a greater total T is taken in this way: of each material its"
-            + " mass * p / T is taken; the kilograms that are missing then are taken one by one, each of the material of which"
-            + " most is left in the heap (of several the lowest material).");
+        Sentences.holds(0, "A portion of p kilograms of a heap with a greater total T is taken in this way: of each"
+            + " material its mass * p / T is taken; the kilograms that are missing then are taken one by one, each of"
+            + " the material of which most is left in the heap (of several the lowest material).");
         String text = "materials 3;station 0 0 1 0;set 5 0;set 0 ";
         // One kilogram, which all materials miss: the most, and of several the lowest.
         Checks.masses(ticked(1, text + "1;load 4 9 9;"), 8, 0, 1, 0);
@@ -139,18 +140,25 @@ final class TickBoundaries {
         for (int i = 1; i <= 30; i++) {
             text.append("load ").append(i).append(";");
         }
+        // More parcels than it ever holds go through it; what is undone and loaded again stands where it stood.
         RecyclingLine x = Checks.lineOf(text.toString());
-        // More parcels than it ever holds go through it, and what is undone and loaded again stands where it stood.
+        RecyclingLine undone = Checks.lineOf(text.toString());
         for (int i = 31; i <= 70; i++) {
+            undone.run(1);
+            undone.load(0, 999);
+            undone.undo();
+            Checks.due("no parcel in the last place", undone.mass(45, 0), 0);
             x.run(1);
-            x.load(0, 999);
-            x.undo();
-            Checks.due("no parcel in the last place", x.mass(45, 0), 0);
-            Checks.due("load", x.load(0, i), 30);
-            Checks.due("the first one", x.mass(16, 0), i - 29);
-            Checks.due("the last one", x.mass(45, 0), i);
-            Checks.due("all of them", x.balance(1), 30L * i - 29 * 15);
+            parcelsUpTo(i, x);
+            parcelsUpTo(i, undone);
         }
+    }
+
+    private static void parcelsUpTo(int last, RecyclingLine x) {
+        Checks.due("load", x.load(0, last), 30);
+        Checks.due("the first one", x.mass(16, 0), last - 29);
+        Checks.due("the last one", x.mass(45, 0), last);
+        Checks.due("all of them", x.balance(1), 30L * last - 29 * 15);
     }
 
     private static void roundsOfWhatIsLoaded() {
@@ -198,8 +206,9 @@ final class TickBoundaries {
     }
 
     private static void stationRanges() {
-        Sentences.holds(0, "A station has a target (a material), pickers (0 to 9), a rate (1 to 50), an error (0 to 30), a tiredness"
-            + " (0 to 60, at first 0), a slot of the belt in front of it (a parcel, or empty), and a bunker (a heap).");
+        Sentences.holds(0, "A station has a target (a material), pickers (0 to 9), a rate (1 to 50), an error (0 to"
+            + " 30), a tiredness (0 to 60, at first 0), a slot of the belt in front of it (a parcel, or empty), and a"
+            + " bunker (a heap).");
         RecyclingLine x = Checks.lineOf("materials 6;station 0 0 1 0;station 5 9 50 30;");
         Checks.properties(x, 0, 0, 0, 1, 0, 0, 0, 0, 0, -1, 0, 0);
         Checks.properties(x, 1, 5, 9, 50, 30, 0, 450, 0, 0, -1, 0, 0);
@@ -230,9 +239,9 @@ final class TickBoundaries {
     }
 
     private static void settings() {
-        Sentences.holds(0, "Settings, numbered from 0, with their ranges and first values: 0 feed (1 to 200, 50), 1 bale (20 to 500,"
-            + " 100), 2 limit A (0 to 100, 95), 3 limit B (0 to 100, 85), 4 loop (0 to 100, 20), 5 rounds (0 to 5, 2), 6 tiring (0"
-            + " to 5, 1), 7 claim (0 to 20, 2).");
+        Sentences.holds(0, "Settings, numbered from 0, with their ranges and first values: 0 feed (1 to 200, 50), 1"
+            + " bale (20 to 500, 100), 2 limit A (0 to 100, 95), 3 limit B (0 to 100, 85), 4 loop (0 to 100, 20), 5"
+            + " rounds (0 to 5, 2), 6 tiring (0 to 5, 1), 7 claim (0 to 20, 2).");
         int[][] due = {{1, 200, 50}, {20, 500, 100}, {0, 100, 95}, {0, 100, 85}, {0, 100, 20}, {0, 5, 2}, {0, 5, 1}, {0, 20, 2}};
         RecyclingLine x = new RecyclingLine();
         String line = "materials 1;station 0 0 1 0;set ";
@@ -307,7 +316,8 @@ final class TickBoundaries {
     }
 
     private static void roundsAllowed() {
-        Sentences.holds(0, "its rounds are less than the setting rounds", "with one round more; otherwise its heap goes to the residue");
+        Sentences.holds(0, "its rounds are less than the setting rounds",
+            "with one round more; otherwise its heap goes to the residue");
         for (int rounds = 0; rounds <= 5; rounds++) {
             RecyclingLine x = Checks.lineOf("materials 1;station 0 0 1 0;set 5 " + rounds + ";load 9;");
             for (int made = 0; made <= rounds; made++) {
@@ -390,9 +400,9 @@ final class TickBoundaries {
     private static void feeding() {
         Sentences.holds(0, "Of the first parcel in the hopper, if there is one, a portion of feed kilograms is taken");
         // Of one parcel only, also if it has less than the feed.
-        int[][] cases = {{49, 49, 7, 1}, {50, 50, 7, 1}, {51, 50, 1, 2}};
+        int[][] cases = {{49, 49, 70, 1}, {50, 50, 70, 1}, {51, 50, 1, 2}};
         for (int[] one : cases) {
-            RecyclingLine x = ticked(1, "materials 1;station 0 0 1 0;load " + one[0] + ";load 7;");
+            RecyclingLine x = ticked(1, "materials 1;station 0 0 1 0;load " + one[0] + ";load 70;");
             Checks.due("fed of " + one[0], x.station(0, 7), one[1]);
             Checks.due("the first one then", x.mass(16, 0), one[2]);
             Checks.due("parcels", x.line(4), one[3]);
@@ -422,7 +432,8 @@ final class TickBoundaries {
     }
 
     private static void firstOfTheHopper() {
-        Sentences.holds(0, "what is left stays the first parcel of the hopper (if nothing is left, the next one is the first then)");
+        Sentences.holds(0, "what is left stays the first parcel of the hopper (if nothing is left, the next one is"
+            + " the first then)");
         RecyclingLine x = ticked(1, "materials 2;station 0 0 1 0;set 0 10;set 5 0;load 0 11;load 0 10;load 0 5;");
         Checks.masses(x, 16, 0, 1);
         Checks.masses(x, 17, 0, 10);
@@ -442,8 +453,8 @@ final class TickBoundaries {
     }
 
     private static void pickingTheTarget() {
-        Sentences.holds(0, "the station picks from the parcel in its slot (if there is none, P is 0): of its target as much as there is,"
-            + " at most its capacity; let P be that");
+        Sentences.holds(0, "the station picks from the parcel in its slot (if there is none, P is 0): of its target"
+            + " as much as there is, at most its capacity; let P be that");
         int[][] cases = {{9, 9}, {10, 10}, {11, 10}, {1, 1}, {0, 0}};
         for (int[] one : cases) {
             RecyclingLine x = ticked(1, "materials 2;station 1 1 10 0;load 5 " + one[0] + ";");
@@ -473,8 +484,8 @@ final class TickBoundaries {
     }
 
     private static void pickingOthers() {
-        Sentences.holds(0, "Then, of that other material of which most is in the parcel (of several the lowest one), as much as there is,"
-            + " at most P * error / 100.");
+        Sentences.holds(0, "Then, of that other material of which most is in the parcel (of several the lowest one),"
+            + " as much as there is, at most P * error / 100.");
         String text = "materials 4;station 1 9 50 ";
         int[][] errors = {{0, 0}, {1, 1}, {29, 29}, {30, 30}};
         for (int[] error : errors) {
@@ -514,7 +525,8 @@ final class TickBoundaries {
     }
 
     private static void growingTired() {
-        Sentences.holds(0, "If P is at least 1, its tiredness grows by tiring, to at most 60; otherwise it shrinks by 2, to at least 0.");
+        Sentences.holds(0, "If P is at least 1, its tiredness grows by tiring, to at most 60; otherwise it shrinks by"
+            + " 2, to at least 0.");
         for (int tiring = 0; tiring <= 5; tiring++) {
             RecyclingLine x = ticked(1, "materials 1;station 0 1 1 0;set 6 " + tiring + ";load 1;");
             Checks.due("P is 1", x.station(0, 4), tiring);
