@@ -280,15 +280,19 @@ final class AskBoundaries {
         for (int place = 0; place <= 46; place++) {
             Checks.due("mass(" + place + ", 0)", x.mass(place, 0), 0);
         }
-        RecyclingLine once = ticked(3, "materials 1;" + "station 0 1 2 0;".repeat(8) + "set 0 20;" + "load 20;".repeat(30));
-        Checks.type(once, "materials 1;station 0 0 1 0;load 9;");
-        once.read();
-        for (int place = 0; place <= 46; place++) {
-            Checks.due("mass(" + place + ", 0) where there was something once", once.mass(place, 0), place == 16 ? 9 : 0);
-        }
-        once.run(1);
-        for (int place = 0; place <= 46; place++) {
-            Checks.due("mass(" + place + ", 0) after a tick", once.mass(place, 0), place == 8 ? 9 : 0);
+        for (int texts = 1; texts <= 3; texts++) {
+            RecyclingLine once = ticked(3, "materials 1;" + "station 0 1 2 0;".repeat(8) + "set 0 20;" + "load 20;".repeat(30));
+            for (int i = 0; i < texts; i++) {
+                Checks.type(once, "materials 1;station 0 0 1 0;load 9;");
+                once.read();
+            }
+            for (int place = 0; place <= 46; place++) {
+                Checks.due("mass(" + place + ", 0), where there was something once", once.mass(place, 0), place == 16 ? 9 : 0);
+            }
+            once.run(1);
+            for (int place = 0; place <= 46; place++) {
+                Checks.due("mass(" + place + ", 0) after a tick", once.mass(place, 0), place == 8 ? 9 : 0);
+            }
         }
     }
 
