@@ -40,7 +40,7 @@ public final class RulesTest {
         classes.add(RecyclingLine.class);
         Checks.due("rule 4: characters beyond 127", source.chars().filter(c -> c > 127).count(), 0L);
         Checks.due("rules 2, 3, 6: forbidden words", found(code, FORBIDDEN), List.of());
-        Checks.due("rule 4: other imports", others(code, "(?m)^import ([\\w.]+);", IMPORTS), List.of());
+        Checks.due("rule 4: other imports", others(code, "\\bimport ([^;]+);", IMPORTS), List.of());
         Checks.due("rule 4: other functions", others(code, "\\b([A-Z][a-z]+\\.[a-z]\\w*)(?=\\()", ownFunctions(classes)), List.of());
         Checks.due("rule 6: throws of another form", found(code, "\\bthrow\\b(?! new \\w+\\(\"[ -~]*\"\\);)"), List.of());
         Checks.due("rule 6: other exceptions", others(code, "\\bthrow new (\\w+)", EXCEPTIONS), List.of());
